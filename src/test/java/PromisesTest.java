@@ -72,6 +72,7 @@ public final class PromisesTest {
         HorizonSeam x = new HorizonSeam();
         due("ring of '" + text + "'", kind, () -> ring(x, text));
         due("fault() of '" + text + "'", place, () -> x.fault());
+        due("count(12) behind '" + text + "'", kind == 0 ? 0 : 1, () -> x.count(12));
     }
 
     private static void fine(String text) {
@@ -261,6 +262,10 @@ public final class PromisesTest {
         fault("frays not and;", 3, 10);
         fault("frays (week);", 3, 7);
         fault("frays 1 and or 1;", 3, 12);
+        for (String word : new String[] {"stretch", "woman", "knots", "week", "frays", "pulls", "and", "zzz", "a"}) {
+            fault("frays " + word + ";", 3, 6);
+            fault("pulls 1*" + word + ";", 3, 8);
+        }
 
         promise = "3 and 4, fault 4";
         fault("knots 1 1;", 4, 8);
@@ -462,17 +467,15 @@ public final class PromisesTest {
         due("all undone: stitch", 0, () -> x.stretch(1, 2));
         due("all undone: seam", 0, () -> x.stretch(1, 1));
         for (int k = 1; k <= 45; k++) {
-            x.days(k % 3 + 1);
-            x.go(0, k % 3);
+            x.days(1);
         }
-        int day = x.count(4);
         due("acts that are kept", 40, () -> x.count(9));
         for (int k = 39; k >= 0; k--) {
             int left = k;
             due("undo()", left, () -> x.undo());
+            due("the day", 5 + left, () -> x.count(4));
         }
         due("undo()", -1, () -> x.undo());
-        due("the day is that ahead of 20 of the times", 1, () -> x.count(4) > 0 && x.count(4) < day ? 1 : 0);
     }
 
     private static void days() {
@@ -905,6 +908,20 @@ public final class PromisesTest {
                 + "frays women*(strain=0)*(day=0)*5;");
         due("couples that rest, of like gain", 2, () -> u.game(0, 1, 0));
         due("the first of them", 0, () -> u.game(0, 1, 1));
+        // The same for the other one, and both from the other side.
+        HorizonSeam r = of("stretch 5 90 0;stretch 0 20 0;stretch 0 90 0;woman 0 0 0;woman 0 1 0;pulls 0;"
+                + "frays women*(strain=0)*(day=0)*5;");
+        due("couples that rest, of like gain", 2, () -> r.game(0, 1, 0));
+        due("the first of them", 0, () -> r.game(0, 1, 1));
+        due("couples that rest, of like gain", 2, () -> r.game(1, 0, 0));
+        // On the fifth day it frays by 10 if nobody is at it: to stay pays; on the sixth it would by 20 if she is.
+        HorizonSeam q = of("stretch 0 50 0;stretch 5 90 0;stretch 0 90 0;woman 0 0 0;woman 0 1 0;pulls 0;"
+                + "frays (strain=0)*((women=0)*(day=4)*20+(women=1)*(day=5)*40);");
+        due("behind 5 days", 0, () -> q.game(0, 1, 1));
+        due("behind 5 days", 1, () -> q.game(0, 1, 0));
+        HorizonSeam o = of("stretch 0 59 0;stretch 5 90 0;stretch 0 90 0;woman 0 0 0;woman 0 1 0;pulls 0;"
+                + "frays (strain=0)*(women=1)*(day=4)*20;");
+        due("on the fifth day it pays to be away", 10, () -> o.game(0, 1, 1));
         due("game(0, 0, 2)", NO_SUCH, () -> y.game(0, 0, 2));
         due("game(0, 2, 0)", NO_SUCH, () -> y.game(0, 2, 0));
         due("game(2, 2, 0)", NO_SUCH, () -> y.game(2, 2, 0));
