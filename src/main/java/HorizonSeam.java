@@ -1242,7 +1242,8 @@ public final class HorizonSeam {
         // -- the rules
 
         private int besideOf(Told told, int i) {
-            return strain[told.ahead(i)] + strain[told.after(i)];
+            int last = told.stretches - 1;
+            return strain[i < 1 ? last : i - 1] + strain[i >= last ? 0 : i + 1];
         }
 
         int valueOf(Told told, int value, int i) {
@@ -1936,23 +1937,14 @@ public final class HorizonSeam {
                 takeToken();
                 return readExpr(depth + 1) && passSign(')');
             }
-            if (kind == WORD) {
-                return readValue();
-            }
-            if (kind != NUMBER) {
+            if (kind != WORD && kind != NUMBER) {
                 return fail(CANT_STAND);
             }
-            if (digits > MOST_DIGITS) {
+            if (kind == NUMBER && digits > MOST_DIGITS) {
                 return fail(TOO_MUCH);
             }
-            told.append(value);
-            takeToken();
-            return true;
-        }
-
-        private boolean readValue() {
-            int code = Word.of(text, start, next).code;
-            if (code == 0) {
+            int code = kind == NUMBER ? value : Word.of(text, start, next).code;
+            if (kind == WORD && code == 0) {
                 return fail(UNTOLD);
             }
             told.append(code);
