@@ -278,6 +278,8 @@ public final class PromisesTest {
         fault("frays 1;frays 1;", 5, 8);
         fault("pulls 1;pulls 1;", 5, 8);
         fine("pulls 1;frays 1;");
+        fault("week 1;" + times(" ", 689) + "week", 5, 696);
+        fine(times(" ", 693) + "week 1;");
     }
 
     /** What an EXPR is worth, by a rule of few that can't be kept away from -9 to 9. */
@@ -866,6 +868,8 @@ public final class PromisesTest {
         due("look(-1)", NO_SUCH, () -> z.look(-1));
         HorizonSeam v = of("stretch 0 99 0;stretch 0 60 0;stretch 0 40 0;" + STILL);
         due("look(1) above 63", 51, () -> v.look(1));
+        HorizonSeam u = of("stretch 0 99 0;frays (seam<64)*20;pulls 0;");
+        due("look(1): 0, 64 to 99", 37, () -> u.look(1));
         v.see(1, 0, 60);
         v.see(2, 0, 40);
         due("look(0)", 0, () -> v.look(0));
