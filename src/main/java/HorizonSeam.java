@@ -1486,8 +1486,9 @@ public final class HorizonSeam {
                 high[i] = 0;
             }
             for (int i = 0; i < told.stretches; i++) {
-                // All tears that take the whole seam end alike, so the least of them stands for the rest.
-                int unlike = within(now.land.seam[i], 1, MOST_TORN);
+                // All tears that take the whole seam end alike, so the least of them stands for the rest. What is open
+                // has no seam to take: no ship can tear it, so there is no tear of it to weigh.
+                int unlike = Math.min(now.land.seam[i], MOST_TORN);
                 for (int much = 1; much <= unlike; much++) {
                     trial.copyFrom(now.land);
                     trial.tearOff(told, i, much);

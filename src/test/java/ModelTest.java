@@ -1160,6 +1160,9 @@ public final class ModelTest {
             List<Integer> tears = new ArrayList<>();
             for (int i = 0; i < n; i++) {
                 for (int much = 1; much <= 50; much++) {
+                    if (state.seam[i] == 0) {
+                        continue;
+                    }
                     State s = state.copy();
                     tear(s, i, much);
                     if (isSeen(s)) {

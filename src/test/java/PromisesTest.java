@@ -850,6 +850,7 @@ public final class PromisesTest {
         due("torn(0)", 47, () -> y.torn(0));
         y.see(0, 0, 1);
         due("torn(0)", 0, () -> y.torn(0));
+        tearsOfOpenOnes();
 
         promise = "31";
         HorizonSeam z = new HorizonSeam();
@@ -874,6 +875,38 @@ public final class PromisesTest {
         v.see(2, 0, 40);
         due("look(0)", 0, () -> v.look(0));
         due("look(1)", 50, () -> v.look(1));
+    }
+
+    /** A ship can't tear what is open, so it is never one of those that may have been torn. */
+    private static void tearsOfOpenOnes() {
+        HorizonSeam x = of("stretch 0 0 0;stretch 0 60 0;stretch 0 40 0;" + STILL);
+        due("torn(0), 0 is open", 100, () -> x.torn(0));
+        due("torn(1), 0 is open", 101, () -> x.torn(1));
+        due("torn(2), 0 is open", 1, () -> x.torn(2));
+        x.see(1, 0, 60);
+        due("torn(0), 1 isn't torn", 50, () -> x.torn(0));
+        due("torn(1), 1 isn't torn", 201, () -> x.torn(1));
+        due("look(0), 1 isn't torn", 2, () -> x.look(0));
+        due("look(1): 0 to 39", 40, () -> x.look(1));
+        x.see(2, 0, 40);
+        due("torn(0), nothing is torn", 0, () -> x.torn(0));
+        due("torn(1), nothing is torn", -1, () -> x.torn(1));
+        due("torn(2), nothing is torn", 1, () -> x.torn(2));
+        due("look(0), nothing is torn", -1, () -> x.look(0));
+        due("look(1), nothing is torn", 0, () -> x.look(1));
+        HorizonSeam all = of("stretch 0 0 0;stretch 0 0 0;stretch 0 0 0;woman 3 1 5;week 1;");
+        due("torn(0), all are open", 0, () -> all.torn(0));
+        due("torn(1), all are open", -1, () -> all.torn(1));
+        due("torn(2), all are open", 1, () -> all.torn(2));
+        due("look(0), all are open", -1, () -> all.look(0));
+        due("look(1), all are open", 0, () -> all.look(1));
+        all.mend(0);
+        due("torn(0), 1 is mended", 50, () -> all.torn(0));
+        due("torn(1), 1 is mended", 101, () -> all.torn(1));
+        all.tear(1, 9);
+        due("torn(0), 1 is torn", 0, () -> all.torn(0));
+        all.undo();
+        due("torn(0), that is undone", 50, () -> all.torn(0));
     }
 
     private static void chances() {
