@@ -925,6 +925,11 @@ public final class PromisesTest {
         due("not by what is open now", 0, () -> of("stretch 0 0 0;").gales(5, 10));
         due("gales(5, 10)", 100000, () -> of("stretch 0 9 0;").gales(5, 10));
         due("nothing changes", 0, () -> x.stretch(0, 0));
+        HorizonSeam beside = of("stretch 0 0 0;stretch 0 5 0;stretch 0 99 0;pulls 0;frays (15<beside)*20;");
+        due("what is open has no strain by gales", 0, () -> beside.gales(1, 10));
+        HorizonSeam mended = of("stretch 0 9 0;woman 9 0 9;week 2;pulls 0;frays (women=1)*(day=0)*strain;");
+        due("it opens by a gale", 5, () -> mended.gales(1, 5));
+        due("and is mended: it isn't open behind both days", 0, () -> mended.gales(2, 5));
 
         promise = "33";
         // Each mends by 21: her own stretch gains 2, the other one's takes the same.
@@ -978,6 +983,33 @@ public final class PromisesTest {
         due("years(1, 61, 0)", ILLEGAL, () -> w.years(1, 61, 0));
         due("years(1, -1, 0)", ILLEGAL, () -> w.years(1, -1, 0));
         due("nothing changes", 150, () -> w.count(6));
+        shipsThatMeetWhatIsOpen();
+    }
+
+    /** Such a ship changes nothing, though how much it would tear is drawn: the next ship is by what is drawn behind. */
+    private static void shipsThatMeetWhatIsOpen() {
+        HorizonSeam x = of("stretch 98 0 0;stretch 0 99 0;stretch 0 99 0;pulls 0;frays strain/9;");
+        int met = 0;
+        for (int seed = 0; seed < 5000; seed++) {
+            int s = seed;
+            boolean open = drawn(s, 1, 6) == 0 && drawn(s, 2, 3) == 0;
+            if (open && drawn(s, 4, 6) == 0 && drawn(s, 5, 3) > 0) {
+                met++;
+                due("years(" + s + ", 1, 1)", 198, () -> x.years(s, 1, 1));
+                due("years(" + s + ", 2, 1)", 197 - drawn(s, 6, 20), () -> x.years(s, 2, 1));
+            }
+        }
+        int meetings = met;
+        due("there are such seeds", 1, () -> meetings > 0 ? 1 : 0);
+    }
+
+    /** What is drawn of n by the so manieth draw. */
+    private static int drawn(int seed, int which, int n) {
+        int becomes = seed;
+        for (int k = 0; k < which; k++) {
+            becomes = becomes * 1103515245 + 12345;
+        }
+        return (becomes >> 16 & 0x7FFF) % n;
     }
 
     private static int firstDaySeam(int seed) {
