@@ -1,87 +1,8 @@
-import java.nio.charset.StandardCharsets;
-import java.util.NoSuchElementException;
-
 /** Each promise of the document by itself: ordinary inputs, the edges it names, and wrong inputs. */
-public final class PromisesTest {
-    private static int wrong = 0;
-    private static String promise = "";
-
-    private static final int NO_SUCH = Integer.MIN_VALUE + 1;
-    private static final int ILLEGAL = Integer.MIN_VALUE + 2;
-
+public final class PromisesTest extends Checks {
     /** 18/5, 0/10, 45/4, 9/20 back; two women; Thursday is every second day. */
     private static final String FOUR = "stretch 18 5 0;stretch 0 10 0;stretch 45 4 0;stretch 9 20 1;"
             + "woman 2 0 3;woman 4 2 1;week 2;knots 1 12 2 00;";
-    /** Nothing moves but by the women. */
-    private static final String STILL = "pulls 0;frays 0;";
-
-    private interface Call {
-        int answer();
-    }
-
-    private static void due(String what, int want, Call call) {
-        int got;
-        try {
-            got = call.answer();
-        } catch (NoSuchElementException e) {
-            got = NO_SUCH;
-        } catch (IllegalArgumentException e) {
-            got = ILLEGAL;
-        }
-        if (got != want) {
-            wrong++;
-            System.out.println(promise + ": " + what + " answered " + name(got) + ", due is " + name(want));
-        }
-    }
-
-    private static String name(int answer) {
-        return answer == NO_SUCH ? "NoSuchElementException" : answer == ILLEGAL ? "IllegalArgumentException" : "" + answer;
-    }
-
-    private static int feedText(HorizonSeam x, String text) {
-        byte[] bytes = text.getBytes(StandardCharsets.ISO_8859_1);
-        int fed = 0;
-        for (int at = 0; at < bytes.length; at += 20) {
-            int[] five = new int[5];
-            for (int k = 0; k < 20; k++) {
-                int b = at + k < bytes.length ? bytes[at + k] & 255 : ' ';
-                five[k / 4] = five[k / 4] << 8 | b;
-            }
-            fed = x.feed(five[0], five[1], five[2], five[3], five[4]);
-        }
-        return fed;
-    }
-
-    private static int ring(HorizonSeam x, String text) {
-        feedText(x, text);
-        return x.ring(text.length());
-    }
-
-    private static HorizonSeam of(String text) {
-        HorizonSeam x = new HorizonSeam();
-        int fault = ring(x, text);
-        if (fault != 0) {
-            wrong++;
-            System.out.println(promise + ": fault " + fault + " at " + x.fault() + " of " + text);
-        }
-        return x;
-    }
-
-    /** The fault, and its place by 10 ahead of it. */
-    private static void fault(String text, int kind, int place) {
-        HorizonSeam x = new HorizonSeam();
-        due("ring of '" + text + "'", kind, () -> ring(x, text));
-        due("fault() of '" + text + "'", place, () -> x.fault());
-        due("count(12) behind '" + text + "'", kind == 0 ? 0 : 1, () -> x.count(12));
-    }
-
-    private static void fine(String text) {
-        fault(text, 0, -1);
-    }
-
-    private static String times(String part, int many) {
-        return part.repeat(many);
-    }
 
     public static void main(String[] args) {
         texts();
@@ -96,14 +17,11 @@ public final class PromisesTest {
         sights();
         chances();
         images();
-        System.out.println(wrong == 0 ? "all promises hold" : wrong + " answers are not as due");
-        if (wrong != 0) {
-            System.exit(1);
-        }
+        end("all promises hold");
     }
 
     private static void texts() {
-        promise = "1";
+        says("1");
         HorizonSeam fresh = new HorizonSeam();
         due("count(0)", 3, () -> fresh.count(0));
         due("count(1)", 0, () -> fresh.count(1));
@@ -114,7 +32,7 @@ public final class PromisesTest {
         due("stretch(2, 2)", 0, () -> fresh.stretch(2, 2));
         due("fault()", -1, () -> fresh.fault());
 
-        promise = "2";
+        says("2");
         HorizonSeam tape = new HorizonSeam();
         for (int k = 1; k <= 35; k++) {
             int many = 20 * k;
@@ -125,7 +43,7 @@ public final class PromisesTest {
         due("ring(4)", 1, () -> tape.ring(4));
         due("feed behind ring", 20, () -> tape.feed(0, 0, 0, 0, 0));
 
-        promise = "3";
+        says("3");
         HorizonSeam x = of(FOUR);
         x.days(3);
         x.see(0, 0, 0);
@@ -163,7 +81,7 @@ public final class PromisesTest {
         due("its seam", 50, () -> two.stretch(2, 1));
         due("the told one's", 6, () -> two.stretch(1, 1));
 
-        promise = "4";
+        says("4");
         due("fault()", -1, () -> two.fault());
         due("ring of ';'", 1, () -> ring(two, "  ;"));
         due("fault()", 2, () -> two.fault());
@@ -175,7 +93,7 @@ public final class PromisesTest {
     }
 
     private static void faults() {
-        promise = "3 and 4, fault 1";
+        says("3 and 4, fault 1");
         fine("");
         fine(" \n ");
         fine("week\n3 ;stretch 0 0 0\n;");
@@ -215,7 +133,7 @@ public final class PromisesTest {
         fault("frays (((((();", 1, 12);
         fault("frays ((((((+1))))));", 1, 12);
 
-        promise = "3 and 4, fault 2";
+        says("3 and 4, fault 2");
         fault("stretch 100 0 0;", 2, 8);
         fault("stretch 0 100 0;", 2, 10);
         fault("stretch 0 0 3;", 2, 12);
@@ -250,7 +168,7 @@ public final class PromisesTest {
         fine("frays not not not not not not (not 1);");
         fine("frays not not not not not not 1 and not not not 1;");
 
-        promise = "3 and 4, fault 3";
+        says("3 and 4, fault 3");
         fault("woman 0 0 0;", 3, 8);
         fault("stretch 0 1 0;woman 0 1 0;", 3, 22);
         fault("stretch 0 1 0;woman 0 9999 0;stretch 0 1 0;", 3, 22);
@@ -267,12 +185,12 @@ public final class PromisesTest {
             fault("pulls 1*" + word + ";", 3, 8);
         }
 
-        promise = "3 and 4, fault 4";
+        says("3 and 4, fault 4");
         fault("knots 1 1;", 4, 8);
         fault("knots 01 1 01;", 4, 11);
         fine("knots 01 1 001;");
 
-        promise = "3 and 4, fault 5";
+        says("3 and 4, fault 5");
         fault("knots 1;knots 2;", 5, 8);
         fault("week 1;week 1;", 5, 7);
         fault("frays 1;frays 1;", 5, 8);
@@ -289,7 +207,7 @@ public final class PromisesTest {
     }
 
     private static void rules() {
-        promise = "6, rules";
+        says("6, rules");
         worth("1+2*3", 7);
         worth("9-2-3", 4);
         worth("8/4/2", 1);
@@ -336,7 +254,7 @@ public final class PromisesTest {
     }
 
     private static void now() {
-        promise = "5";
+        says("5");
         HorizonSeam x = of("stretch 1 0 0;stretch 2 20 0;stretch 3 0 0;stretch 4 7 1;week 3;knots 1 2;"
                 + "woman 1 1 0;woman 1 1 4;woman 1 3 5;woman 1 3 6;");
         int[] want = {4, 4, 2, 3, 0, 5, 27, 15, 1 | 2 | 8, 0, 0, 0, 0, 0, 0};
@@ -358,7 +276,7 @@ public final class PromisesTest {
         due("acts refused", 1, () -> x.count(13));
         due("sights refused", 1, () -> x.count(14));
 
-        promise = "6";
+        says("6");
         HorizonSeam y = of(FOUR);
         int[][] of2 = {{18, 5, 0, 1, 2, -3}, {0, 10, 0, 0, 0, 7}, {45, 4, 0, 2, 5, -9}, {9, 20, 1, 0, 0, 5}};
         for (int i = 0; i < 4; i++) {
@@ -381,7 +299,7 @@ public final class PromisesTest {
         due("kept to 9", 9, () -> of("stretch 99 9 2;stretch 0 9 0;stretch 99 9 0;").stretch(1, 5));
         due("cut down to 0", 0, () -> of("stretch 4 9 2;").stretch(0, 5));
 
-        promise = "7";
+        says("7");
         int[] of0 = {2, 0, 3};
         for (int k = 0; k < 3; k++) {
             int what = k;
@@ -395,7 +313,7 @@ public final class PromisesTest {
     }
 
     private static void acts() {
-        promise = "9";
+        says("9");
         HorizonSeam x = of("stretch 0 90 0;stretch 0 0 0;stretch 0 9 0;woman 9 0 2;woman 0 1 1;" + STILL);
         due("mend(0), 99 at most", 99, () -> x.mend(0));
         due("her thread", 1, () -> x.woman(0, 2));
@@ -407,7 +325,7 @@ public final class PromisesTest {
         due("mend(-1)", NO_SUCH, () -> x.mend(-1));
         due("status", 1, () -> x.count(13));
 
-        promise = "10";
+        says("10");
         due("go(0, 2)", 0, () -> x.go(0, 2));
         due("go(0, 2)", -1, () -> x.go(0, 2));
         due("status", 2, () -> x.count(13));
@@ -415,7 +333,7 @@ public final class PromisesTest {
         due("go(2, 0)", NO_SUCH, () -> x.go(2, 0));
         due("where she is", 2, () -> x.woman(0, 1));
 
-        promise = "11";
+        says("11");
         due("stitch(1, 2)", 0, () -> x.stitch(1, 2));
         due("stitch(1, 1)", 2, () -> x.stitch(1, 1));
         due("stitch(1, 1)", -1, () -> x.stitch(1, 1));
@@ -425,7 +343,7 @@ public final class PromisesTest {
         due("stitch(3, 7)", NO_SUCH, () -> x.stitch(3, 7));
         due("its stitch", 1, () -> x.stretch(1, 2));
 
-        promise = "12";
+        says("12");
         due("thread(1, 50)", 50, () -> x.thread(1, 50));
         due("thread(1, 50), 99 at most", 99, () -> x.thread(1, 50));
         due("thread(1, 1)", 99, () -> x.thread(1, 1));
@@ -434,7 +352,7 @@ public final class PromisesTest {
         due("status", 7, () -> x.count(13));
         due("thread(2, 51)", NO_SUCH, () -> x.thread(2, 51));
 
-        promise = "13";
+        says("13");
         HorizonSeam y = of("stretch 41 20 0;stretch 90 9 0;stretch 50 0 0;stretch 3 50 1;");
         due("tear(0, 0)", -1, () -> y.tear(0, 0));
         due("tear(0, 51)", -1, () -> y.tear(0, 51));
@@ -451,7 +369,7 @@ public final class PromisesTest {
         due("no more for what is open", 0, () -> y.stretch(0, 0));
         due("no more for what is open", 50, () -> y.stretch(2, 0));
 
-        promise = "14";
+        says("14");
         due("undo()", 2, () -> y.undo());
         due("undone: seam", 9, () -> y.stretch(1, 1));
         due("undone: strain", 99, () -> y.stretch(1, 0));
@@ -481,7 +399,7 @@ public final class PromisesTest {
     }
 
     private static void days() {
-        promise = "8";
+        says("8");
         HorizonSeam x = new HorizonSeam();
         due("days(0)", -1, () -> x.days(0));
         due("days(21)", -1, () -> x.days(21));
@@ -496,7 +414,7 @@ public final class PromisesTest {
         due("days(1) above 999", -1, () -> x.days(1));
         due("status", 6, () -> x.count(13));
 
-        promise = "8, a day";
+        says("8, a day");
         HorizonSeam y = of(FOUR);
         due("days(1)", 1, () -> y.days(1));
         // Pulls: 15, 7, 36, 14. Frays: 1, 0, 4 (opens: 18 for each beside), 3 by half.
@@ -556,7 +474,7 @@ public final class PromisesTest {
     }
 
     private static void ahead() {
-        promise = "15";
+        says("15");
         HorizonSeam x = of(FOUR);
         due("then(0, 0, 0)", 18, () -> x.then(0, 0, 0));
         due("then(0, 0, 1)", 5, () -> x.then(0, 0, 1));
@@ -569,7 +487,7 @@ public final class PromisesTest {
         due("then(0, -1, 1)", ILLEGAL, () -> x.then(0, -1, 1));
         due("nothing changes", 0, () -> x.count(4));
 
-        promise = "16";
+        says("16");
         due("later(1, 0)", 4, () -> x.later(1, 0));
         due("later(1, 1)", 3, () -> x.later(1, 1));
         due("later(1, 2)", 32, () -> x.later(1, 2));
@@ -583,7 +501,7 @@ public final class PromisesTest {
         due("later(-1, 3)", ILLEGAL, () -> x.later(-1, 3));
         due("later(0, -1)", NO_SUCH, () -> x.later(0, -1));
 
-        promise = "17";
+        says("17");
         due("opens(2)", 1, () -> x.opens(2));
         HorizonSeam y = of("stretch 0 0 0;stretch 0 60 0;stretch 0 61 0;frays 1;pulls 0;");
         due("opens(0) now", 0, () -> y.opens(0));
@@ -594,14 +512,14 @@ public final class PromisesTest {
         HorizonSeam z = of("stretch 0 1 0;woman 0 0 1;week 1;frays 1-day;pulls 0;");
         due("mended on the day it opens", -1, () -> z.opens(0));
 
-        promise = "18";
+        says("18");
         due("first()", 2, () -> x.first());
         due("first()", 1, () -> y.first());
         due("first() of like ones", 1, () -> of("stretch 0 9 0;stretch 0 4 0;stretch 0 4 0;frays 2;").first());
         due("first(), none", -1, () -> of("stretch 0 0 0;stretch 0 61 0;stretch 0 61 0;frays 1;").first());
         due("first(), all open", -1, () -> of(times("stretch 0 0 0;", 3)).first());
 
-        promise = "19";
+        says("19");
         due("where(0, 0, 0)", 0, () -> x.where(0, 0, 0));
         due("where(1, 4, 0)", 0, () -> x.where(1, 4, 0));
         due("where(0, 60, 0)", 30 % 4, () -> x.where(0, 60, 0));
@@ -612,20 +530,20 @@ public final class PromisesTest {
         due("where(0, 61, 0)", ILLEGAL, () -> x.where(0, 61, 0));
         due("where(0, -1, 0)", ILLEGAL, () -> x.where(0, -1, 0));
 
-        promise = "20";
+        says("20");
         due("spent()", 6, () -> x.spent());
         due("spent() without women", 0, () -> new HorizonSeam().spent());
         due("spent(), none", -1, () -> of("stretch 0 1 0;woman 0 0 99;").spent());
         due("spent() behind 60", 60, () -> of("stretch 0 1 0;woman 0 0 60;week 1;").spent());
         due("spent(), none", -1, () -> of("stretch 0 1 0;woman 0 0 61;week 1;").spent());
 
-        promise = "35";
+        says("35");
         due("steady()", 1, () -> new HorizonSeam().steady());
         due("steady()", 5, () -> of("stretch 0 4 0;stretch 0 0 0;stretch 0 0 0;frays 1;").steady());
         due("steady(), none", -1, () -> of("stretch 0 99 0;frays 1;").steady());
         due("strain, too", -1, () -> of("frays 0;pulls (day/2*2=day)*2-1;").steady());
 
-        promise = "40";
+        says("40");
         HorizonSeam w = of("stretch 0 1 0;stretch 0 1 0;woman 0 0 1;woman 0 1 9;woman 0 1 0;week 1;");
         due("meet(1, 2)", 0, () -> w.meet(1, 2));
         due("meet(0, 1)", -1, () -> w.meet(0, 1));
@@ -633,7 +551,7 @@ public final class PromisesTest {
         due("meet(3, 1)", NO_SUCH, () -> w.meet(3, 1));
         due("meet(1, -1)", NO_SUCH, () -> w.meet(1, -1));
 
-        promise = "41";
+        says("41");
         due("bare(0)", 4, () -> w.bare(0));
         due("bare(1)", 5, () -> w.bare(1));
         due("bare(60)", 7, () -> w.bare(60));
@@ -642,7 +560,7 @@ public final class PromisesTest {
     }
 
     private static void advice() {
-        promise = "21";
+        says("21");
         HorizonSeam x = of("stretch 0 5 0;stretch 0 99 0;stretch 0 0 0;frays 3;pulls 0;");
         due("toHold(0, 1)", 0, () -> x.toHold(0, 1));
         due("toHold(0, 2)", 2, () -> x.toHold(0, 2));
@@ -657,7 +575,7 @@ public final class PromisesTest {
         // Open now, but mended on the first day: behind no day is it open.
         due("open now", 0, () -> of("stretch 0 0 0;woman 0 0 9;week 1;" + STILL).toHold(0, 9));
 
-        promise = "22";
+        says("22");
         String ring = "stretch 0 2 0;stretch 0 9 0;stretch 0 2 0;stretch 0 2 0;woman 9 1 9;week 2;frays 1;pulls 0;";
         HorizonSeam y = of(ring);
         // Behind 2 days 0, 2 and 3 are open, but for the one that she mends on the Thursday.
@@ -672,7 +590,7 @@ public final class PromisesTest {
         due("toSend(0, 0, 0)", ILLEGAL, () -> y.toSend(0, 0, 0));
         due("toSend(0, 61, 0)", ILLEGAL, () -> y.toSend(0, 61, 0));
 
-        promise = "23";
+        says("23");
         HorizonSeam z = of("stretch 18 50 0;stretch 9 50 0;stretch 0 50 2;pulls 0;");
         due("bestStitch(0, 1)", 2, () -> z.bestStitch(0, 1));
         due("bestStitch(1, 1)", 1, () -> z.bestStitch(1, 1));
@@ -683,7 +601,7 @@ public final class PromisesTest {
         due("bestStitch(0, 61)", ILLEGAL, () -> z.bestStitch(0, 61));
         due("bestStitch(3, 0)", NO_SUCH, () -> z.bestStitch(3, 0));
 
-        promise = "24";
+        says("24");
         HorizonSeam w = of(times("stretch 0 9 0;", 8) + "woman 0 0 1;woman 0 4 1;woman 0 4 1;woman 0 7 1;");
         due("sent(0, -1)", 0, () -> w.sent(0, -1));
         due("sent(1 and 5)", 2, () -> w.sent(34, -1));
@@ -705,14 +623,14 @@ public final class PromisesTest {
         due("no such one", NO_SUCH, () -> w.sent(3, 32));
         due("none of none", NO_SUCH, () -> w.sent(0, 0));
 
-        promise = "36";
+        says("36");
         due("nearest(6)", 3, () -> w.nearest(6));
         due("nearest(2) of like ones", 0, () -> w.nearest(2));
         due("nearest(3)", 1, () -> w.nearest(3));
         due("nearest() without women", -1, () -> new HorizonSeam().nearest(0));
         due("nearest(8)", NO_SUCH, () -> w.nearest(8));
 
-        promise = "37";
+        says("37");
         due("far(0, 7)", 1, () -> w.far(0, 7));
         due("far(1, 5)", 4, () -> w.far(1, 5));
         due("far(6, 1)", 3, () -> w.far(6, 1));
@@ -720,7 +638,7 @@ public final class PromisesTest {
         due("far(8, 0)", NO_SUCH, () -> w.far(8, 0));
         due("far(0, -1)", NO_SUCH, () -> w.far(0, -1));
 
-        promise = "39";
+        says("39");
         // Torn open, 1 gives 45 to each beside: 5 a day for 2, 8 of seam, opens; 0 has 90.
         HorizonSeam v = of("stretch 0 90 0;stretch 90 9 0;stretch 0 8 0;stretch 0 0 0;pulls 0;frays strain/9*(stitch=0);");
         v.stitch(1, 1);
@@ -735,7 +653,7 @@ public final class PromisesTest {
     }
 
     private static void rows() {
-        promise = "25";
+        says("25");
         HorizonSeam x = of("stretch 5 9 0;stretch 9 0 0;stretch 1 9 0;stretch 9 9 0;stretch 5 0 0;stretch 7 9 0;");
         due("closed(0)", 2, () -> x.closed(0));
         due("closed(1) of like ones", 2, () -> x.closed(1));
@@ -749,7 +667,7 @@ public final class PromisesTest {
         due("closed(2)", NO_SUCH, () -> x.closed(2));
         due("closed(-1)", NO_SUCH, () -> x.closed(-1));
 
-        promise = "26";
+        says("26");
         HorizonSeam y = of("stretch 5 9 0;stretch 9 0 0;stretch 1 9 0;stretch 9 9 0;stretch 2 0 0;stretch 9 9 0;");
         due("tight(1, 0)", 9, () -> y.tight(1, 0));
         due("tight(1, 1) of like ones", 1, () -> y.tight(1, 1));
@@ -765,13 +683,13 @@ public final class PromisesTest {
         due("tight(0, 0)", ILLEGAL, () -> y.tight(0, 0));
         due("tight(13, 2)", NO_SUCH, () -> y.tight(13, 2));
 
-        promise = "38";
+        says("38");
         due("gaps()", 2, () -> y.gaps());
         due("gaps() of all", 1, () -> of(times("stretch 0 0 0;", 3)).gaps());
         due("gaps() of none", 0, () -> new HorizonSeam().gaps());
         due("gaps() round the end", 1, () -> of("stretch 0 0 0;stretch 0 9 0;stretch 0 9 0;stretch 0 0 0;").gaps());
 
-        promise = "42";
+        says("42");
         due("load(9)", 3, () -> y.load(9));
         due("load(5)", 2, () -> y.load(5));
         due("load(0)", 1, () -> y.load(0));
@@ -782,7 +700,7 @@ public final class PromisesTest {
     }
 
     private static void knots() {
-        promise = "27";
+        says("27");
         HorizonSeam x = of("knots 1 11 111 1111 0 00;");
         due("readings(1, 0)", 1, () -> x.readings(1, 0));
         due("readings(1111, 0)", 8, () -> x.readings(1111, 0));
@@ -804,7 +722,7 @@ public final class PromisesTest {
     }
 
     private static void sights() {
-        promise = "28";
+        says("28");
         HorizonSeam x = new HorizonSeam();
         due("see(3, 99, 0)", NO_SUCH, () -> x.see(3, 99, 0));
         due("see(0, 21, 0)", -1, () -> x.see(0, 21, 0));
@@ -819,12 +737,12 @@ public final class PromisesTest {
         due("status", 5, () -> x.count(14));
         due("acts aren't refused by it", 0, () -> x.count(13));
 
-        promise = "29";
+        says("29");
         x.forget();
         due("forgotten", 0, () -> x.count(10));
         due("see() anew", 1, () -> x.see(2, 3, 43));
 
-        promise = "30";
+        says("30");
         due("torn(0)", 1, () -> x.torn(0));
         due("torn(1)", 207, () -> x.torn(1));
         due("torn(2)", 0, () -> x.torn(2));
@@ -852,7 +770,7 @@ public final class PromisesTest {
         due("torn(0)", 0, () -> y.torn(0));
         tearsOfOpenOnes();
 
-        promise = "31";
+        says("31");
         HorizonSeam z = new HorizonSeam();
         due("look(0)", 0, () -> z.look(0));
         due("look(1)", 51, () -> z.look(1));
@@ -910,7 +828,7 @@ public final class PromisesTest {
     }
 
     private static void chances() {
-        promise = "32";
+        says("32");
         // A gale gives 15 strain, that takes 1 of 2 each day from then on.
         HorizonSeam x = of("stretch 0 2 0;stretch 0 99 0;stretch 0 0 0;pulls 0;frays strain/9;");
         due("gales(1, 3): 1 left", 0, () -> x.gales(1, 3));
@@ -931,7 +849,7 @@ public final class PromisesTest {
         due("it opens by a gale", 5, () -> mended.gales(1, 5));
         due("and is mended: it isn't open behind both days", 0, () -> mended.gales(2, 5));
 
-        promise = "33";
+        says("33");
         // Each mends by 21: her own stretch gains 2, the other one's takes the same.
         HorizonSeam y = of("stretch 0 10 0;stretch 0 10 0;stretch 0 10 0;woman 9 0 9;woman 9 1 9;" + STILL);
         due("game(0, 1, 0)", 1, () -> y.game(0, 1, 0));
@@ -969,7 +887,7 @@ public final class PromisesTest {
         due("game(1, 1, 0)", ILLEGAL, () -> y.game(1, 1, 0));
         due("nothing changes", 0, () -> y.woman(0, 1));
 
-        promise = "34";
+        says("34");
         HorizonSeam w = of(times("stretch 0 50 0;", 3) + "woman 0 0 7;" + STILL);
         due("years(1, 0, 0)", 0, () -> w.years(1, 0, 0));
         due("years(1, 0, 1)", 150, () -> w.years(1, 0, 1));
@@ -1025,7 +943,7 @@ public final class PromisesTest {
     }
 
     private static void images() {
-        promise = "43";
+        says("43");
         HorizonSeam x = of(FOUR);
         due("restore() without", 0, () -> x.restore() ? 1 : 0);
         x.days(1);
@@ -1040,7 +958,7 @@ public final class PromisesTest {
         x.mend(0);
         x.days(99);
 
-        promise = "44";
+        says("44");
         for (int times = 0; times < 2; times++) {
             due("restore()", 1, () -> x.restore() ? 1 : 0);
             due("the day", 1, () -> x.count(4));
