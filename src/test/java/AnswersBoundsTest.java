@@ -99,7 +99,10 @@ public final class AnswersBoundsTest extends Checks {
         // 0 is open now, is mended on day 1, and opens again on day 2; 1 opens on day 9.
         due("not what is open now and opens again", 1,
                 () -> of("stretch 0 0 0;stretch 0 27 0;stretch 0 99 0;woman 0 0 1;week 1;frays 3;pulls 0;").first());
-        due("by the days, not by the number", 2, () -> of("stretch 0 9 0;stretch 0 8 0;stretch 0 7 0;frays 1;pulls 0;").first());
+        HorizonSeam x = of("stretch 0 9 0;stretch 0 8 0;stretch 0 7 0;frays 1;pulls 0;");
+        due("by the days, not by the number", 2, () -> x.first());
+        x.tear(0, 3);
+        due("from now on", 0, () -> x.first());
     }
 
     private static void tightestAndBalance() {
@@ -123,6 +126,8 @@ public final class AnswersBoundsTest extends Checks {
         due("behind 61", ILLEGAL, () -> x.later(61, 2));
         due("behind -1", ILLEGAL, () -> x.later(-1, 2));
         due("of all alike", 0, () -> of(times("stretch 5 9 0;", 12)).later(0, 2));
+        due("0 is the loosest", 4, () -> of("stretch 5 9 0;stretch 9 9 0;stretch 6 9 0;").later(0, 2));
+        due("0 is the tightest", 4, () -> of("stretch 9 9 0;stretch 5 9 0;stretch 6 9 0;").later(0, 2));
         due("of 0 and 99", 99, () -> of("stretch 5 9 0;stretch 99 9 0;stretch 0 9 0;").later(0, 2));
         due("of open ones, too", 99, () -> of("stretch 5 9 0;stretch 99 0 0;stretch 0 0 0;").later(0, 2));
         due("the last of 12", 3, () -> of(times("stretch 5 9 0;", 11) + "stretch 2 9 0;").later(0, 2));
@@ -150,6 +155,10 @@ public final class AnswersBoundsTest extends Checks {
         due("60 by a week of 6", 60, () -> of("stretch 0 9 0;week 6;woman 0 0 10;").spent());
         due("63 by a week of 7: none", NONE, () -> of("stretch 0 9 0;woman 0 0 9;").spent());
         due("without WOMEN", 0, () -> new HorizonSeam().spent());
+        HorizonSeam y = of(one + "9;");
+        due("behind 9", 9, () -> y.spent());
+        y.thread(0, 8);
+        due("from now on", 17, () -> y.spent());
     }
 
     private static void toHold() {
@@ -202,6 +211,10 @@ public final class AnswersBoundsTest extends Checks {
         due("she stays", 0, () -> x.woman(0, 1));
         due("all open", 3, () -> of(ALL_OPEN + "woman 0 1 0;").toSend(0, 60, 1));
         due("all open, of like ones", 0, () -> of(ALL_OPEN + "woman 0 1 0;").toSend(0, 60, 0));
+        due("all of 12 open", 12, () -> of(times("stretch 0 0 0;", 12) + "woman 0 1 0;").toSend(0, 1, 1));
+        HorizonSeam harm = of("stretch 0 9 0;stretch 0 9 0;stretch 0 9 0;woman 0 1 0;pulls 0;frays women*9;");
+        due("wherever she is, one opens: she must be somewhere", 1, () -> harm.toSend(0, 1, 1));
+        due("wherever she is, one opens: of like ones", 0, () -> harm.toSend(0, 1, 0));
         due("none open, of like ones", 0, () -> of("stretch 0 9 0;stretch 0 9 0;woman 0 1 9;" + STILL).toSend(0, 1, 0));
         HorizonSeam y = of(times("stretch 0 9 0;", 11) + "stretch 0 0 0;woman 0 3 1;week 1;" + STILL);
         due("the last one", 11, () -> y.toSend(0, 1, 0));
@@ -221,6 +234,7 @@ public final class AnswersBoundsTest extends Checks {
         due("0 days", ILLEGAL, () -> x.bestStitch(0, 0));
         due("61 days", ILLEGAL, () -> x.bestStitch(0, 61));
         due("nothing changes", 2, () -> x.stretch(0, 2));
+        due("there is no fourth one", 0, () -> of("stretch 0 50 1;pulls 0;frays 5*(stitch<3);").bestStitch(0, 1));
         due("open by any: all alike", 0, () -> of("stretch 99 1 2;pulls 0;frays 1;").bestStitch(0, 60));
         due("an open one: all alike", 0, () -> of("stretch 99 0 2;").bestStitch(0, 1));
         HorizonSeam y = of("stretch 0 99 0;pulls 0;frays (not stitch=1)*(day=59);");
@@ -278,6 +292,12 @@ public final class AnswersBoundsTest extends Checks {
         due("all together", 5, () -> y.sent(1 | 16, NONE));
         due("not each by herself: to 0", 1, () -> y.sent(1 | 16, 0));
         due("not each by herself: to 4", 0, () -> y.sent(1 | 16, 4));
+
+        says("SENT: no two one WOMAN");
+        // Woman 0 goes to 0, though she is at 1; so she can't go to 1, too.
+        HorizonSeam once = of(ring + "woman 0 1 0;woman 0 2 0;");
+        due("to 0", 0, () -> once.sent(3, 0));
+        due("to 1", 1, () -> once.sent(3, 1));
 
         says("SENT: of like ones the first row (by STRETCHES)");
         HorizonSeam like = of(ring + "woman 0 5 0;woman 0 5 0;woman 0 5 0;");
@@ -375,9 +395,29 @@ public final class AnswersBoundsTest extends Checks {
         due("1: a word is longer", 0, () -> y.readings(1, 0));
         due("1: none", NONE, () -> y.readings(1, 1));
         due("122: the last digit is none", 0, () -> y.readings(122, 0));
+        due("122: none", NONE, () -> y.readings(122, 1));
         due("212: the first digit is none", 0, () -> y.readings(212, 0));
         due("212: none", NONE, () -> y.readings(212, 1));
-        due("nine words", 9, () -> of("knots 7;").readings(777777777, 1));
+        HorizonSeam nine = of("knots 9;");
+        int number = 999999999;
+        for (int digits = 9; digits >= 1; digits--) {
+            int many = digits;
+            int nines = number;
+            due("the one way of " + nines, 1, () -> nine.readings(nines, 0));
+            due("words of " + nines, many, () -> nine.readings(nines, 1));
+            due("not " + (nines - 1), 0, () -> nine.readings(nines - 1, 0));
+            due("not " + (nines - 1), NONE, () -> nine.readings(nines - 1, 1));
+            number /= 10;
+        }
+        HorizonSeam ten = of("knots 1 0;");
+        number = 1;
+        for (int digits = 1; digits <= 9; digits++) {
+            int many = digits;
+            int noughts = number;
+            due("the one way of " + noughts, 1, () -> ten.readings(noughts, 0));
+            due("words of " + noughts, many, () -> ten.readings(noughts, 1));
+            number *= 10;
+        }
     }
 
     // ---- 4.
@@ -518,7 +558,11 @@ public final class AnswersBoundsTest extends Checks {
         due("without a gale, too", 100000, () -> of("stretch 0 45 0;pulls 0;frays 9;").gales(5, 3));
         due("not what is open now, is mended and opens again", 0,
                 () -> of("stretch 0 0 0;stretch 0 99 0;stretch 0 99 0;woman 0 0 1;week 1;pulls 0;frays 3;").gales(2, 5));
-        due("not what opens and is mended", 0, () -> of("stretch 0 9 0;woman 0 0 1;week 2;pulls 0;frays (day=0)*9;").gales(2, 5));
+        due("not what opens and is mended", 0,
+                () -> of("stretch 0 9 0;woman 0 0 1;week 2;pulls 0;frays (day=0)*9;").gales(2, 5));
+        HorizonSeam second = of("stretch 0 9 0;pulls 0;frays (day=1)*9;");
+        due("behind 1 day, not behind 2", 0, () -> second.gales(1, 10));
+        due("behind 2 days", 100, () -> second.gales(2, 10));
         due("nothing changes", 20, () -> x.stretch(0, 1));
     }
 
@@ -545,9 +589,23 @@ public final class AnswersBoundsTest extends Checks {
         HorizonSeam cut = of("stretch 0 20 0;stretch 0 20 0;stretch 0 25 0;stretch 0 20 0;woman 0 0 0;woman 0 2 0;pulls 0;"
                 + "frays (day=0)*women;");
         due("cut down: 19 is 1", 2, () -> cut.game(0, 1, 0));
-        // She mends by 9: 29, that is 2, against 20 and a step.
-        HorizonSeam mends = of(ring + "woman 3 0 1;woman 0 2 0;pulls 0;frays 0;");
-        due("29 is 2", 1, () -> mends.game(0, 1, 0));
+        // What frays on the fifth day counts, what would on the sixth doesn't.
+        HorizonSeam fifth = of(ring + "woman 0 0 0;woman 0 2 0;week 9;pulls 0;frays (day=4)*women*11;");
+        due("the fifth day: both go", 11, () -> fifth.game(0, 1, 1));
+        HorizonSeam sixth = of(ring + "woman 0 0 0;woman 0 2 0;week 9;pulls 0;frays (day=5)*women*11;");
+        due("the sixth day: both stay", 0, () -> sixth.game(0, 1, 1));
+
+        says("A GAME: each MENDS now where she is (0), or goes on to the STRETCH after hers, and MENDS there (1)");
+        // She would be away, as 20 less 11 is 9; but by her own mending it is 30.
+        HorizonSeam mends = of(ring + "woman 9 0 1;woman 0 2 0;pulls 0;frays (day=0)*women*11;");
+        due("she mends and stays, the other one goes", 1, () -> mends.game(0, 1, 1));
+        due("one couple", 1, () -> mends.game(0, 1, 0));
+        // The other one goes on from the last one to 0 and mends by 3: 13, 3 more, less 3 for each who is there. It is 10
+        // if the first one stays, and 13 and a step if she went. Without that, both would be alike.
+        HorizonSeam there = of("stretch 0 13 0;stretch 0 20 0;stretch 0 20 0;stretch 0 20 1;woman 0 0 0;woman 0 3 1;week 9;"
+                + "pulls 0;frays (day=0)*women*((stitch=0)*3+(stitch=1)*20);");
+        due("she mends there: one couple", 1, () -> there.game(0, 1, 0));
+        due("she mends there", 1, () -> there.game(0, 1, 1));
         due("nothing changes: thread", 1, () -> mends.woman(0, 2));
         due("nothing changes: seam", 20, () -> mends.stretch(0, 1));
         due("nothing changes: the day", 0, () -> mends.count(4));
@@ -710,6 +768,10 @@ public final class AnswersBoundsTest extends Checks {
         due("seam of the last one counts", 10, () -> of(times("stretch 0 0 0;", 11) + "stretch 0 9 0;frays 1;pulls 0;").steady());
         due("the first time, though it moves behind that", 1, () -> of("pulls 0;frays day=1;").steady());
         due("where WOMEN are counts for nothing", 1, () -> of("stretch 0 9 0;woman 0 0 0;week 1;" + STILL).steady());
+        HorizonSeam x = of("stretch 0 9 0;" + rest);
+        due("10", 10, () -> x.steady());
+        x.days(4);
+        due("from now on", 6, () -> x.steady());
         due("nor does THREAD", 1, () -> of("stretch 0 99 0;stretch 0 99 0;stretch 0 99 0;woman 0 0 9;week 1;" + STILL).steady());
     }
 
@@ -752,6 +814,7 @@ public final class AnswersBoundsTest extends Checks {
         due("0 alone", 1, () -> of(o + c + c).gaps());
         due("the last one alone", 1, () -> of(c + c + o).gaps());
         due("every second one of 12", 6, () -> of(times(o + c, 6)).gaps());
+        due("every second one of 12, from 1 on", 6, () -> of(times(c + o, 6)).gaps());
         due("two", 2, () -> of(o + o + c + o + c).gaps());
 
         says("LOAD: how many rows there are of STRETCHES with so much STRAIN (0 to 99) or more now (all: one)");
@@ -761,6 +824,7 @@ public final class AnswersBoundsTest extends Checks {
         due("0: all", 1, () -> of(o + c + o).load(0));
         due("round the end", 1, () -> of(o + c + c + o).load(9));
         due("every second one of 12", 6, () -> of(times(o + c, 6)).load(9));
+        due("every second one of 12, from 1 on", 6, () -> of(times(c + o, 6)).load(9));
         due("or more", 6, () -> of(times(o + c, 6)).load(8));
         due("not less", 0, () -> of(times(o + c, 6)).load(10));
         due("99", 1, () -> of("stretch 99 9 0;stretch 98 9 0;stretch 98 9 0;").load(99));

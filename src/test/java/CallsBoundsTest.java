@@ -29,6 +29,21 @@ public final class CallsBoundsTest extends Checks {
         end("the bounds of the calls hold");
     }
 
+    /** What is asked of an object; most checks have one of their own, as none is promised to answer more than 512 calls. */
+    private interface Ask {
+        int of(HorizonSeam x);
+    }
+
+    /** An object of four stretches on day 3, with something seen, an image, and so much of a text on the tape. */
+    private static HorizonSeam begun(String tape) {
+        HorizonSeam x = of(FOUR);
+        x.days(3);
+        x.see(0, 0, 0);
+        x.image();
+        feedText(x, tape);
+        return x;
+    }
+
     /** All that can be asked of it, but for how many calls were refused. */
     private static String all(HorizonSeam x) {
         StringBuilder all = new StringBuilder();
@@ -58,32 +73,32 @@ public final class CallsBoundsTest extends Checks {
     }
 
     /** The call throws, and nothing changes, nor is it counted as refused. */
-    private static void thrown(HorizonSeam x, String what, int exception, Call call) {
+    private static void thrown(HorizonSeam x, String what, int exception, Ask ask) {
         String was = all(x) + status(x);
-        due(what, exception, call);
+        due(what, exception, () -> ask.of(x));
         unchanged(what, was, all(x) + status(x));
     }
 
-    private static void noSuch(HorizonSeam x, String what, Call call) {
-        thrown(x, what, NO_SUCH, call);
+    private static void noSuch(HorizonSeam x, String what, Ask ask) {
+        thrown(x, what, NO_SUCH, ask);
     }
 
-    private static void illegal(HorizonSeam x, String what, Call call) {
-        thrown(x, what, ILLEGAL, call);
+    private static void illegal(HorizonSeam x, String what, Ask ask) {
+        thrown(x, what, ILLEGAL, ask);
     }
 
     /** The call answers NONE, nothing changes, and it counts for this STATUS alone. */
-    private static void refused(HorizonSeam x, int which, String what, Call call) {
+    private static void refused(HorizonSeam x, int which, String what, Ask ask) {
         String was = all(x);
         int[] counts = {x.count(12), x.count(13), x.count(14)};
         counts[which]++;
-        due(what, NONE, call);
+        due(what, NONE, () -> ask.of(x));
         unchanged(what, was, all(x));
         unchanged(what + ": status", counts[0] + " " + counts[1] + " " + counts[2], status(x));
     }
 
-    private static void refusedAct(HorizonSeam x, String what, Call call) {
-        refused(x, 1, what, call);
+    private static void refusedAct(HorizonSeam x, String what, Ask ask) {
+        refused(x, 1, what, ask);
     }
 
     private static void aNewObject() {
@@ -102,8 +117,8 @@ public final class CallsBoundsTest extends Checks {
                 due("stretch(" + i + ", " + k + ")", of[k], () -> x.stretch(stretch, what));
             }
         }
-        noSuch(x, "stretch(3, 0)", () -> x.stretch(3, 0));
-        noSuch(x, "woman(0, 0)", () -> x.woman(0, 0));
+        noSuch(x, "stretch(3, 0)", it -> it.stretch(3, 0));
+        noSuch(x, "woman(0, 0)", it -> it.woman(0, 0));
         due("fault()", NONE, () -> x.fault());
         due("undo()", NONE, () -> x.undo());
         due("restore()", 0, () -> bit(x.restore()));
@@ -140,18 +155,14 @@ public final class CallsBoundsTest extends Checks {
 
     private static void ring() {
         says("Promise 3: IllegalArgumentException: the tape has not so many, n below 0 (nothing changes)");
-        HorizonSeam x = of(FOUR);
-        x.days(3);
-        x.see(0, 0, 0);
-        x.image();
-        illegal(x, "ring(1) of none", () -> x.ring(1));
-        illegal(x, "ring(-1) of none", () -> x.ring(-1));
+        illegal(begun(""), "ring(1) of none", it -> it.ring(1));
+        illegal(begun(""), "ring(-1) of none", it -> it.ring(-1));
         due("ring(0) of none", 0, () -> new HorizonSeam().ring(0));
-        feedText(x, "week 3;");
-        illegal(x, "ring(21) of 20", () -> x.ring(21));
-        illegal(x, "ring(-1) of 20", () -> x.ring(-1));
-        illegal(x, "ring(MOST)", () -> x.ring(MOST));
-        illegal(x, "ring(LEAST)", () -> x.ring(LEAST));
+        illegal(begun("week 3;"), "ring(21) of 20", it -> it.ring(21));
+        illegal(begun("week 3;"), "ring(-1) of 20", it -> it.ring(-1));
+        illegal(begun("week 3;"), "ring(MOST)", it -> it.ring(MOST));
+        HorizonSeam x = begun("week 3;");
+        illegal(x, "ring(LEAST)", it -> it.ring(LEAST));
         due("the image is there, too", 1, () -> bit(x.restore()));
         due("the tape is there, too", 20, () -> x.count(11));
         due("ring(20) of 20", 0, () -> x.ring(20));
@@ -163,38 +174,37 @@ public final class CallsBoundsTest extends Checks {
         due("ring(7) of 20", 0, () -> y.ring(7));
         due("week", 3, () -> y.count(3));
         due("the tape", 0, () -> y.count(11));
-        illegal(y, "ring(1)", () -> y.ring(1));
+        illegal(y, "ring(1)", it -> it.ring(1));
         feedText(y, "week 5;!");
         due("ring(8) has a fault", 1, () -> y.ring(8));
         due("the tape is empty then, too", 0, () -> y.count(11));
-        illegal(y, "ring(1)", () -> y.ring(1));
+        illegal(y, "ring(1)", it -> it.ring(1));
         feedText(y, "week 6;");
         due("ring(0) of 20", 0, () -> y.ring(0));
         due("the tape", 0, () -> y.count(11));
         due("week 7 without", 7, () -> y.count(3));
 
         says("Promise 3: 0, or the FAULT (all stays)");
-        HorizonSeam z = of(FOUR);
-        z.days(2);
-        z.tear(3, 5);
-        z.see(3, 4, 0);
-        z.image();
-        z.go(0, 3);
         for (String text : new String[] {"!", "week 0;", "frays x;", "knots 1 1;", "week 1;week 1;",
             "stretch 9 9 9;", "stretch 1 2 0;woman 1 0 1;week 5;knots 7;frays 3;pulls 4;!"}) {
-            String was = all(z).replaceFirst(" -?[0-9]*;", ";");
+            HorizonSeam z = begun("");
+            z.go(0, 3);
+            String was = withoutPlace(z);
             int[] kind = {ring(z, text)};
             due("a fault", 1, () -> bit(kind[0] >= 1 && kind[0] <= 5));
-            String is = all(z).replaceFirst(" -?[0-9]*;", ";");
-            unchanged("a fault", was, is);
+            unchanged("a fault", was, withoutPlace(z));
+            due("acts stay", 1, () -> z.undo());
+            due("the image stays", 1, () -> bit(z.restore()));
         }
         due("rules stay", -8, () -> {
             HorizonSeam v = of("pulls 0-8;frays 8;");
             ring(v, "pulls 1;frays 1;!");
             return v.stretch(0, 5) + v.stretch(0, 4) - 8;
         });
-        due("acts stay", 2, () -> z.undo());
-        due("the image stays", 1, () -> bit(z.restore()));
+    }
+
+    private static String withoutPlace(HorizonSeam x) {
+        return all(x).replaceFirst(" -?[0-9]*;", ";");
     }
 
     private static void ringAnew() {
@@ -226,8 +236,37 @@ public final class CallsBoundsTest extends Checks {
         says("Promise 3: a second ring begins at DAY 0, as it is told");
         HorizonSeam y = of(FOUR);
         y.days(5);
+        y.later(60, 0);
         due("ring", 0, () -> ring(y, FOUR));
         unchanged("a second ring", all(of(FOUR)), all(y));
+        due("the day", 0, () -> y.count(4));
+        ringsInTurn();
+    }
+
+    /** Of many rings one behind the other, each is as if it were the first. */
+    private static void ringsInTurn() {
+        says("Promise 3: all anew, whatever was told ahead of it");
+        String six = times("stretch 7 9 2;", 12) + times("woman 5 11 50;", 6);
+        String rules = "stretch 1 50 0;frays " + times("1+", 200) + "(0-190);pulls " + times("1-", 60) + "(0-55);";
+        String[] texts = {six, "", rules, FOUR, rules, rules, "stretch 0 9 1;woman 0 0 1;", six, FOUR, "week 3;",
+            "knots 1 2 3 4 5 6 7 8;", "pulls 1;", "frays 1;", "", rules, "stretch 9 9 1;stretch 9 9 1;stretch 9 9 1;"
+            + "woman 1 0 1;woman 1 1 1;woman 1 2 1;", rules};
+        for (int k = 0; k < texts.length; k++) {
+            HorizonSeam x = new HorizonSeam();
+            for (int turn = 0; turn < 4; turn++) {
+                String ahead = texts[(k + turn) % texts.length];
+                due("ring", 0, () -> ring(x, ahead));
+                x.sent(x.count(1) == 0 ? 0 : 1, NONE);
+                x.sent(x.count(1) < 6 ? 0 : 63, NONE);
+                x.days(3);
+            }
+            String text = texts[k];
+            due("ring", 0, () -> ring(x, text));
+            HorizonSeam alone = of(text);
+            unchanged("ring of '" + text + "'", all(alone), all(x));
+            due("where all are sent to", alone.sent(7, NONE), () -> x.sent(7, NONE));
+            due("years", alone.years(5, 20, 1), () -> x.years(5, 20, 1));
+        }
     }
 
     private static void faultPlace() {
@@ -239,7 +278,7 @@ public final class CallsBoundsTest extends Checks {
         due("asked again", 5, () -> x.fault());
         ring(x, "!");
         due("place 0", 0, () -> x.fault());
-        illegal(x, "ring(1)", () -> x.ring(1));
+        illegal(x, "ring(1)", it -> it.ring(1));
         due("a ring that throws is none", 0, () -> x.fault());
         x.ring(0);
         due("without a fault", NONE, () -> x.fault());
@@ -253,17 +292,31 @@ public final class CallsBoundsTest extends Checks {
         HorizonSeam x = of(FOUR);
         says("Promise 5: NoSuchElementException: another what");
         for (int what : new int[] {LEAST, -1, 15, 16, MOST}) {
-            noSuch(x, "count(" + what + ")", () -> x.count(what));
+            noSuch(of(FOUR), "count(" + what + ")", it -> it.count(what));
         }
         due("count(14)", 0, () -> x.count(14));
 
+        says("Promise 5: of all there can be");
+        HorizonSeam most = of(times("stretch 99 99 2;", 12) + times("woman 9 11 99;", 6) + "week 9;knots 1 2 3 4 5 6 7 8;");
+        int[] counts = {12, 6, 8, 9, 0, 0, 1188, 594, 62};
+        for (int k = 0; k < counts.length; k++) {
+            int what = k;
+            due("count(" + k + ")", counts[k], () -> most.count(what));
+        }
+        HorizonSeam least = of(times("stretch 0 0 0;", 12) + times("woman 0 0 0;", 6) + "week 1;");
+        int[] none = {12, 6, 0, 1, 0, 4095, 0, 0, 63};
+        for (int k = 0; k < none.length; k++) {
+            int what = k;
+            due("count(" + k + ") of what is open and bare", none[k], () -> least.count(what));
+        }
+
         says("Promise 6: NoSuchElementException: no such STRETCH (as everywhere), what");
         for (int wrong : new int[] {LEAST, -1, 4, 11, 12, MOST}) {
-            noSuch(x, "stretch(" + wrong + ", 0)", () -> x.stretch(wrong, 0));
-            noSuch(x, "stretch(" + wrong + ", 6)", () -> x.stretch(wrong, 6));
+            noSuch(of(FOUR), "stretch(" + wrong + ", 0)", it -> it.stretch(wrong, 0));
+            noSuch(of(FOUR), "stretch(" + wrong + ", 6)", it -> it.stretch(wrong, 6));
         }
         for (int wrong : new int[] {LEAST, -1, 6, 7, MOST}) {
-            noSuch(x, "stretch(0, " + wrong + ")", () -> x.stretch(0, wrong));
+            noSuch(of(FOUR), "stretch(0, " + wrong + ")", it -> it.stretch(0, wrong));
         }
         due("stretch(3, 5)", 5, () -> x.stretch(3, 5));
 
@@ -284,10 +337,10 @@ public final class CallsBoundsTest extends Checks {
 
         says("Promise 7: NoSuchElementException: no such WOMAN (as everywhere), what");
         for (int wrong : new int[] {LEAST, -1, 2, 5, 6, MOST}) {
-            noSuch(x, "woman(" + wrong + ", 0)", () -> x.woman(wrong, 0));
+            noSuch(of(FOUR), "woman(" + wrong + ", 0)", it -> it.woman(wrong, 0));
         }
         for (int wrong : new int[] {LEAST, -1, 3, MOST}) {
-            noSuch(x, "woman(1, " + wrong + ")", () -> x.woman(1, wrong));
+            noSuch(of(FOUR), "woman(1, " + wrong + ")", it -> it.woman(1, wrong));
         }
         due("woman(1, 2)", 1, () -> x.woman(1, 2));
     }
@@ -296,7 +349,7 @@ public final class CallsBoundsTest extends Checks {
         says("Promise 8: NONE (STATUS 1): not 1 to 20");
         HorizonSeam x = of(FOUR);
         for (int wrong : new int[] {LEAST, -1, 0, 21, 22, MOST}) {
-            refusedAct(x, "days(" + wrong + ")", () -> x.days(wrong));
+            refusedAct(of(FOUR), "days(" + wrong + ")", it -> it.days(wrong));
         }
         due("days(1)", 1, () -> x.days(1));
         due("days(20)", 21, () -> x.days(20));
@@ -307,44 +360,45 @@ public final class CallsBoundsTest extends Checks {
             y.days(20);
         }
         due("the day", 980, () -> y.count(4));
-        refusedAct(y, "days(20) on day 980", () -> y.days(20));
+        refusedAct(y, "days(20) on day 980", it -> it.days(20));
         due("days(18)", 998, () -> y.days(18));
-        refusedAct(y, "days(2) on day 998", () -> y.days(2));
+        refusedAct(y, "days(2) on day 998", it -> it.days(2));
         due("days(1)", 999, () -> y.days(1));
-        refusedAct(y, "days(1) on day 999", () -> y.days(1));
-        refusedAct(y, "days(MOST) on day 999", () -> y.days(MOST));
+        refusedAct(y, "days(1) on day 999", it -> it.days(1));
+        refusedAct(y, "days(MOST) on day 999", it -> it.days(MOST));
         due("undo()", 39, () -> y.undo());
         due("days(1) again", 999, () -> y.days(1));
     }
 
     private static void actsOfWomen() {
         says("Promise 9: NONE (STATUS 1): she has no THREAD");
-        HorizonSeam x = of("stretch 0 9 0;stretch 0 0 0;stretch 0 9 0;woman 1 0 1;woman 1 1 0;" + STILL);
-        refusedAct(x, "mend(1)", () -> x.mend(1));
+        String two = "stretch 0 9 0;stretch 0 0 0;stretch 0 9 0;woman 1 0 1;woman 1 1 0;" + STILL;
+        HorizonSeam x = of(two);
+        refusedAct(x, "mend(1)", it -> it.mend(1));
         due("mend(0)", 14, () -> x.mend(0));
-        refusedAct(x, "mend(0)", () -> x.mend(0));
+        refusedAct(x, "mend(0)", it -> it.mend(0));
         for (int wrong : new int[] {LEAST, -1, 2, 6, MOST}) {
-            noSuch(x, "mend(" + wrong + ")", () -> x.mend(wrong));
+            noSuch(of(two), "mend(" + wrong + ")", it -> it.mend(wrong));
         }
 
         says("Promise 10: NONE (STATUS 1): she is there. NoSuchElementException (ahead): no such WOMAN, STRETCH");
-        refusedAct(x, "go(0, 0)", () -> x.go(0, 0));
+        refusedAct(x, "go(0, 0)", it -> it.go(0, 0));
         due("go(0, 2)", 0, () -> x.go(0, 2));
-        refusedAct(x, "go(0, 2)", () -> x.go(0, 2));
+        refusedAct(x, "go(0, 2)", it -> it.go(0, 2));
         for (int wrong : new int[] {LEAST, -1, 3, 12, MOST}) {
-            noSuch(x, "go(0, " + wrong + ")", () -> x.go(0, wrong));
-            noSuch(x, "go(" + wrong + ", 0)", () -> x.go(wrong, 0));
-            noSuch(x, "go(" + wrong + ", " + wrong + ")", () -> x.go(wrong, wrong));
+            noSuch(of(two), "go(0, " + wrong + ")", it -> it.go(0, wrong));
+            noSuch(of(two), "go(" + wrong + ", 0)", it -> it.go(wrong, 0));
+            noSuch(of(two), "go(" + wrong + ", " + wrong + ")", it -> it.go(wrong, wrong));
         }
-        noSuch(x, "go(2, 2)", () -> x.go(2, 2));
+        noSuch(of(two), "go(2, 2)", it -> it.go(2, 2));
 
         says("Promise 12: NONE (STATUS 1): not 1 to 50");
         for (int wrong : new int[] {LEAST, -1, 0, 51, 99, MOST}) {
-            refusedAct(x, "thread(0, " + wrong + ")", () -> x.thread(0, wrong));
-            noSuch(x, "thread(2, " + wrong + ")", () -> x.thread(2, wrong));
+            refusedAct(of(two), "thread(0, " + wrong + ")", it -> it.thread(0, wrong));
+            noSuch(of(two), "thread(2, " + wrong + ")", it -> it.thread(2, wrong));
         }
         for (int wrong : new int[] {LEAST, -1, 2, MOST}) {
-            noSuch(x, "thread(" + wrong + ", 5)", () -> x.thread(wrong, 5));
+            noSuch(of(two), "thread(" + wrong + ", 5)", it -> it.thread(wrong, 5));
         }
         due("thread(0, 1)", 1, () -> x.thread(0, 1));
         due("thread(0, 50)", 51, () -> x.thread(0, 50));
@@ -352,15 +406,16 @@ public final class CallsBoundsTest extends Checks {
 
     private static void actsOfStretches() {
         says("Promise 11: NONE (STATUS 1): not 0 to 2, it is that one");
-        HorizonSeam x = of("stretch 0 9 0;stretch 0 0 1;stretch 0 9 2;woman 1 0 1;" + STILL);
+        String three = "stretch 0 9 0;stretch 0 0 1;stretch 0 9 2;woman 1 0 1;" + STILL;
+        HorizonSeam x = of(three);
         for (int wrong : new int[] {LEAST, -1, 3, MOST}) {
-            refusedAct(x, "stitch(0, " + wrong + ")", () -> x.stitch(0, wrong));
-            noSuch(x, "stitch(3, " + wrong + ")", () -> x.stitch(3, wrong));
-            noSuch(x, "stitch(" + wrong + ", 0)", () -> x.stitch(wrong, 0));
+            refusedAct(of(three), "stitch(0, " + wrong + ")", it -> it.stitch(0, wrong));
+            noSuch(of(three), "stitch(3, " + wrong + ")", it -> it.stitch(3, wrong));
+            noSuch(of(three), "stitch(" + wrong + ", 0)", it -> it.stitch(wrong, 0));
         }
         for (int kind = 0; kind <= 2; kind++) {
             int same = kind;
-            refusedAct(x, "stitch(" + kind + ", " + kind + ")", () -> x.stitch(same, same));
+            refusedAct(of(three), "stitch(" + kind + ", " + kind + ")", it -> it.stitch(same, same));
         }
         due("stitch(0, 2)", 0, () -> x.stitch(0, 2));
         due("stitch(1, 0) of an open one", 1, () -> x.stitch(1, 0));
@@ -368,18 +423,18 @@ public final class CallsBoundsTest extends Checks {
 
         says("Promise 13: NONE (STATUS 1): not 1 to 50, it is OPEN");
         for (int wrong : new int[] {LEAST, -1, 0, 51, MOST}) {
-            refusedAct(x, "tear(0, " + wrong + ")", () -> x.tear(0, wrong));
-            refusedAct(x, "tear(1, " + wrong + ") of an open one", () -> x.tear(1, wrong));
-            noSuch(x, "tear(3, " + wrong + ")", () -> x.tear(3, wrong));
+            refusedAct(of(three), "tear(0, " + wrong + ")", it -> it.tear(0, wrong));
+            refusedAct(of(three), "tear(1, " + wrong + ") of an open one", it -> it.tear(1, wrong));
+            noSuch(of(three), "tear(3, " + wrong + ")", it -> it.tear(3, wrong));
         }
-        refusedAct(x, "tear(1, 1) of an open one", () -> x.tear(1, 1));
-        refusedAct(x, "tear(1, 50) of an open one", () -> x.tear(1, 50));
+        refusedAct(x, "tear(1, 1) of an open one", it -> it.tear(1, 1));
+        refusedAct(x, "tear(1, 50) of an open one", it -> it.tear(1, 50));
         for (int wrong : new int[] {LEAST, -1, 3, MOST}) {
-            noSuch(x, "tear(" + wrong + ", 5)", () -> x.tear(wrong, 5));
+            noSuch(of(three), "tear(" + wrong + ", 5)", it -> it.tear(wrong, 5));
         }
         due("tear(0, 8)", 1, () -> x.tear(0, 8));
         due("tear(0, 1)", 0, () -> x.tear(0, 1));
-        refusedAct(x, "tear(0, 1), as it is open", () -> x.tear(0, 1));
+        refusedAct(x, "tear(0, 1), as it is open", it -> it.tear(0, 1));
     }
 
     private static void undo() {
@@ -404,36 +459,36 @@ public final class CallsBoundsTest extends Checks {
         HorizonSeam x = of(FOUR);
         says("Promise 15: NoSuchElementException: also another what. IllegalArgumentException (behind that): not 0 to 60");
         for (int wrong : new int[] {LEAST, -1, 61, MOST}) {
-            illegal(x, "then(0, " + wrong + ", 0)", () -> x.then(0, wrong, 0));
-            illegal(x, "then(3, " + wrong + ", 1)", () -> x.then(3, wrong, 1));
-            noSuch(x, "then(4, " + wrong + ", 0)", () -> x.then(4, wrong, 0));
-            noSuch(x, "then(-1, " + wrong + ", 0)", () -> x.then(-1, wrong, 0));
-            noSuch(x, "then(0, " + wrong + ", 2)", () -> x.then(0, wrong, 2));
-            noSuch(x, "then(0, " + wrong + ", -1)", () -> x.then(0, wrong, -1));
+            illegal(of(FOUR), "then(0, " + wrong + ", 0)", it -> it.then(0, wrong, 0));
+            illegal(of(FOUR), "then(3, " + wrong + ", 1)", it -> it.then(3, wrong, 1));
+            noSuch(of(FOUR), "then(4, " + wrong + ", 0)", it -> it.then(4, wrong, 0));
+            noSuch(of(FOUR), "then(-1, " + wrong + ", 0)", it -> it.then(-1, wrong, 0));
+            noSuch(of(FOUR), "then(0, " + wrong + ", 2)", it -> it.then(0, wrong, 2));
+            noSuch(of(FOUR), "then(0, " + wrong + ", -1)", it -> it.then(0, wrong, -1));
         }
         for (int wrong : new int[] {LEAST, -1, 4, MOST}) {
-            noSuch(x, "then(" + wrong + ", 0, 0)", () -> x.then(wrong, 0, 0));
+            noSuch(of(FOUR), "then(" + wrong + ", 0, 0)", it -> it.then(wrong, 0, 0));
         }
         for (int wrong : new int[] {LEAST, -1, 2, MOST}) {
-            noSuch(x, "then(0, 0, " + wrong + ")", () -> x.then(0, 0, wrong));
+            noSuch(of(FOUR), "then(0, 0, " + wrong + ")", it -> it.then(0, 0, wrong));
         }
 
         says("Promise 16: NoSuchElementException: another what. IllegalArgumentException (behind that): not 0 to 60");
         for (int wrong : new int[] {LEAST, -1, 61, MOST}) {
             for (int what = 0; what <= 3; what++) {
                 int which = what;
-                illegal(x, "later(" + wrong + ", " + what + ")", () -> x.later(wrong, which));
+                illegal(of(FOUR), "later(" + wrong + ", " + what + ")", it -> it.later(wrong, which));
             }
-            noSuch(x, "later(" + wrong + ", 4)", () -> x.later(wrong, 4));
-            noSuch(x, "later(" + wrong + ", -1)", () -> x.later(wrong, -1));
+            noSuch(of(FOUR), "later(" + wrong + ", 4)", it -> it.later(wrong, 4));
+            noSuch(of(FOUR), "later(" + wrong + ", -1)", it -> it.later(wrong, -1));
         }
         for (int wrong : new int[] {LEAST, -1, 4, MOST}) {
-            noSuch(x, "later(0, " + wrong + ")", () -> x.later(0, wrong));
+            noSuch(of(FOUR), "later(0, " + wrong + ")", it -> it.later(0, wrong));
         }
 
         says("Promise 17: no such STRETCH (as everywhere)");
         for (int wrong : new int[] {LEAST, -1, 4, 12, MOST}) {
-            noSuch(x, "opens(" + wrong + ")", () -> x.opens(wrong));
+            noSuch(of(FOUR), "opens(" + wrong + ")", it -> it.opens(wrong));
         }
     }
 
@@ -441,30 +496,30 @@ public final class CallsBoundsTest extends Checks {
         HorizonSeam x = of(FOUR);
         says("Promise 19: NoSuchElementException: also another what. IllegalArgumentException (behind that): not 0 to 60");
         for (int wrong : new int[] {LEAST, -1, 61, MOST}) {
-            illegal(x, "where(0, " + wrong + ", 0)", () -> x.where(0, wrong, 0));
-            illegal(x, "where(1, " + wrong + ", 1)", () -> x.where(1, wrong, 1));
-            noSuch(x, "where(2, " + wrong + ", 0)", () -> x.where(2, wrong, 0));
-            noSuch(x, "where(-1, " + wrong + ", 0)", () -> x.where(-1, wrong, 0));
-            noSuch(x, "where(0, " + wrong + ", 2)", () -> x.where(0, wrong, 2));
-            noSuch(x, "where(0, " + wrong + ", -1)", () -> x.where(0, wrong, -1));
+            illegal(of(FOUR), "where(0, " + wrong + ", 0)", it -> it.where(0, wrong, 0));
+            illegal(of(FOUR), "where(1, " + wrong + ", 1)", it -> it.where(1, wrong, 1));
+            noSuch(of(FOUR), "where(2, " + wrong + ", 0)", it -> it.where(2, wrong, 0));
+            noSuch(of(FOUR), "where(-1, " + wrong + ", 0)", it -> it.where(-1, wrong, 0));
+            noSuch(of(FOUR), "where(0, " + wrong + ", 2)", it -> it.where(0, wrong, 2));
+            noSuch(of(FOUR), "where(0, " + wrong + ", -1)", it -> it.where(0, wrong, -1));
         }
         for (int wrong : new int[] {LEAST, -1, 2, MOST}) {
-            noSuch(x, "where(" + wrong + ", 0, 0)", () -> x.where(wrong, 0, 0));
-            noSuch(x, "where(0, 0, " + wrong + ")", () -> x.where(0, 0, wrong));
+            noSuch(of(FOUR), "where(" + wrong + ", 0, 0)", it -> it.where(wrong, 0, 0));
+            noSuch(of(FOUR), "where(0, 0, " + wrong + ")", it -> it.where(0, 0, wrong));
         }
 
         says("Promise 40: NONE: none, both are one");
         due("meet(0, 0)", NONE, () -> x.meet(0, 0));
         due("meet(1, 1)", NONE, () -> x.meet(1, 1));
         for (int wrong : new int[] {LEAST, -1, 2, MOST}) {
-            noSuch(x, "meet(" + wrong + ", 0)", () -> x.meet(wrong, 0));
-            noSuch(x, "meet(0, " + wrong + ")", () -> x.meet(0, wrong));
-            noSuch(x, "meet(" + wrong + ", " + wrong + ")", () -> x.meet(wrong, wrong));
+            noSuch(of(FOUR), "meet(" + wrong + ", 0)", it -> it.meet(wrong, 0));
+            noSuch(of(FOUR), "meet(0, " + wrong + ")", it -> it.meet(0, wrong));
+            noSuch(of(FOUR), "meet(" + wrong + ", " + wrong + ")", it -> it.meet(wrong, wrong));
         }
 
         says("Promise 41: IllegalArgumentException: not 0 to 60");
         for (int wrong : new int[] {LEAST, -1, 61, MOST}) {
-            illegal(x, "bare(" + wrong + ")", () -> x.bare(wrong));
+            illegal(of(FOUR), "bare(" + wrong + ")", it -> it.bare(wrong));
         }
     }
 
@@ -472,49 +527,49 @@ public final class CallsBoundsTest extends Checks {
         HorizonSeam x = of(FOUR);
         says("Promises 21, 23: IllegalArgumentException (behind NoSuchElementException): not 1 to 60");
         for (int wrong : new int[] {LEAST, -1, 0, 61, MOST}) {
-            illegal(x, "toHold(0, " + wrong + ")", () -> x.toHold(0, wrong));
-            noSuch(x, "toHold(4, " + wrong + ")", () -> x.toHold(4, wrong));
-            noSuch(x, "toHold(-1, " + wrong + ")", () -> x.toHold(-1, wrong));
-            illegal(x, "bestStitch(3, " + wrong + ")", () -> x.bestStitch(3, wrong));
-            noSuch(x, "bestStitch(4, " + wrong + ")", () -> x.bestStitch(4, wrong));
-            noSuch(x, "bestStitch(-1, " + wrong + ")", () -> x.bestStitch(-1, wrong));
+            illegal(of(FOUR), "toHold(0, " + wrong + ")", it -> it.toHold(0, wrong));
+            noSuch(of(FOUR), "toHold(4, " + wrong + ")", it -> it.toHold(4, wrong));
+            noSuch(of(FOUR), "toHold(-1, " + wrong + ")", it -> it.toHold(-1, wrong));
+            illegal(of(FOUR), "bestStitch(3, " + wrong + ")", it -> it.bestStitch(3, wrong));
+            noSuch(of(FOUR), "bestStitch(4, " + wrong + ")", it -> it.bestStitch(4, wrong));
+            noSuch(of(FOUR), "bestStitch(-1, " + wrong + ")", it -> it.bestStitch(-1, wrong));
         }
         for (int wrong : new int[] {LEAST, -1, 4, MOST}) {
-            noSuch(x, "toHold(" + wrong + ", 1)", () -> x.toHold(wrong, 1));
-            noSuch(x, "bestStitch(" + wrong + ", 60)", () -> x.bestStitch(wrong, 60));
+            noSuch(of(FOUR), "toHold(" + wrong + ", 1)", it -> it.toHold(wrong, 1));
+            noSuch(of(FOUR), "bestStitch(" + wrong + ", 60)", it -> it.bestStitch(wrong, 60));
         }
 
         says("Promise 22: NoSuchElementException: also another what. IllegalArgumentException (behind that): not 1 to 60");
         for (int wrong : new int[] {LEAST, -1, 0, 61, MOST}) {
-            illegal(x, "toSend(0, " + wrong + ", 0)", () -> x.toSend(0, wrong, 0));
-            illegal(x, "toSend(1, " + wrong + ", 1)", () -> x.toSend(1, wrong, 1));
-            noSuch(x, "toSend(2, " + wrong + ", 0)", () -> x.toSend(2, wrong, 0));
-            noSuch(x, "toSend(0, " + wrong + ", 2)", () -> x.toSend(0, wrong, 2));
-            noSuch(x, "toSend(0, " + wrong + ", -1)", () -> x.toSend(0, wrong, -1));
+            illegal(of(FOUR), "toSend(0, " + wrong + ", 0)", it -> it.toSend(0, wrong, 0));
+            illegal(of(FOUR), "toSend(1, " + wrong + ", 1)", it -> it.toSend(1, wrong, 1));
+            noSuch(of(FOUR), "toSend(2, " + wrong + ", 0)", it -> it.toSend(2, wrong, 0));
+            noSuch(of(FOUR), "toSend(0, " + wrong + ", 2)", it -> it.toSend(0, wrong, 2));
+            noSuch(of(FOUR), "toSend(0, " + wrong + ", -1)", it -> it.toSend(0, wrong, -1));
         }
         for (int wrong : new int[] {LEAST, -1, 2, MOST}) {
-            noSuch(x, "toSend(" + wrong + ", 1, 0)", () -> x.toSend(wrong, 1, 0));
-            noSuch(x, "toSend(0, 1, " + wrong + ")", () -> x.toSend(0, 1, wrong));
+            noSuch(of(FOUR), "toSend(" + wrong + ", 1, 0)", it -> it.toSend(wrong, 1, 0));
+            noSuch(of(FOUR), "toSend(0, 1, " + wrong + ")", it -> it.toSend(0, 1, wrong));
         }
         HorizonSeam fresh = new HorizonSeam();
-        noSuch(fresh, "toSend(0, 1, 0) without WOMEN", () -> fresh.toSend(0, 1, 0));
+        noSuch(fresh, "toSend(0, 1, 0) without WOMEN", it -> it.toSend(0, 1, 0));
 
         says("Promise 24: IllegalArgumentException: not bits of STRETCHES, more than 6. NoSuchElementException (behind that)");
         for (int wrong : new int[] {LEAST, -1, 16, 17, 4096, MOST}) {
-            illegal(x, "sent(" + wrong + ", NONE)", () -> x.sent(wrong, NONE));
-            illegal(x, "sent(" + wrong + ", 0)", () -> x.sent(wrong, 0));
-            illegal(x, "sent(" + wrong + ", 9)", () -> x.sent(wrong, 9));
+            illegal(of(FOUR), "sent(" + wrong + ", NONE)", it -> it.sent(wrong, NONE));
+            illegal(of(FOUR), "sent(" + wrong + ", 0)", it -> it.sent(wrong, 0));
+            illegal(of(FOUR), "sent(" + wrong + ", 9)", it -> it.sent(wrong, 9));
         }
         for (int wrong : new int[] {LEAST, -2, 1, 3, 4, 31, 32, 34, MOST}) {
-            noSuch(x, "sent(5, " + wrong + ")", () -> x.sent(5, wrong));
+            noSuch(of(FOUR), "sent(5, " + wrong + ")", it -> it.sent(5, wrong));
         }
-        noSuch(x, "sent(0, 0)", () -> x.sent(0, 0));
-        noSuch(x, "sent(7, 3), though there are fewer WOMEN", () -> x.sent(7, 3));
+        noSuch(of(FOUR), "sent(0, 0)", it -> it.sent(0, 0));
+        noSuch(of(FOUR), "sent(7, 3), though there are fewer WOMEN", it -> it.sent(7, 3));
         due("sent(7, 2)", FEWER_WOMEN, () -> x.sent(7, 2));
         due("sent(15, NONE)", FEWER_WOMEN, () -> x.sent(15, NONE));
         HorizonSeam twelve = of(times("stretch 0 9 0;", 12) + times("woman 0 0 0;", 6));
-        illegal(twelve, "sent of 7 of 12", () -> twelve.sent(127, NONE));
-        illegal(twelve, "sent of 7 of 12, none of these", () -> twelve.sent(127, 9));
+        illegal(twelve, "sent of 7 of 12", it -> it.sent(127, NONE));
+        illegal(of(times("stretch 0 9 0;", 12)), "sent of 7 of 12, none of these", it -> it.sent(127, 9));
         due("sent of 6 of 12", 15, () -> twelve.sent(63, NONE));
         due("sent of 6 of 12, to the last", 1, () -> twelve.sent(1 | 2048, 11));
     }
@@ -523,19 +578,19 @@ public final class CallsBoundsTest extends Checks {
         HorizonSeam x = of(FOUR);
         says("Promise 25: NoSuchElementException: another what");
         for (int wrong : new int[] {LEAST, -1, 2, MOST}) {
-            noSuch(x, "closed(" + wrong + ")", () -> x.closed(wrong));
+            noSuch(of(FOUR), "closed(" + wrong + ")", it -> it.closed(wrong));
         }
 
         says("Promise 26: NoSuchElementException: another what. IllegalArgumentException (behind that): not 1 to 12");
         for (int wrong : new int[] {LEAST, -1, 0, 13, MOST}) {
-            illegal(x, "tight(" + wrong + ", 0)", () -> x.tight(wrong, 0));
-            illegal(x, "tight(" + wrong + ", 1)", () -> x.tight(wrong, 1));
-            noSuch(x, "tight(" + wrong + ", 2)", () -> x.tight(wrong, 2));
-            noSuch(x, "tight(" + wrong + ", -1)", () -> x.tight(wrong, -1));
+            illegal(of(FOUR), "tight(" + wrong + ", 0)", it -> it.tight(wrong, 0));
+            illegal(of(FOUR), "tight(" + wrong + ", 1)", it -> it.tight(wrong, 1));
+            noSuch(of(FOUR), "tight(" + wrong + ", 2)", it -> it.tight(wrong, 2));
+            noSuch(of(FOUR), "tight(" + wrong + ", -1)", it -> it.tight(wrong, -1));
         }
         for (int wrong : new int[] {LEAST, -1, 2, MOST}) {
-            noSuch(x, "tight(1, " + wrong + ")", () -> x.tight(1, wrong));
-            noSuch(x, "tight(5, " + wrong + "), there being fewer", () -> x.tight(5, wrong));
+            noSuch(of(FOUR), "tight(1, " + wrong + ")", it -> it.tight(1, wrong));
+            noSuch(of(FOUR), "tight(5, " + wrong + "), there being fewer", it -> it.tight(5, wrong));
         }
         for (int many = 5; many <= 12; many++) {
             int row = many;
@@ -546,13 +601,13 @@ public final class CallsBoundsTest extends Checks {
 
         says("Promise 27: NoSuchElementException: another what. IllegalArgumentException (behind that): not 0 to 999999999");
         for (int wrong : new int[] {LEAST, -1, 1000000000, MOST}) {
-            illegal(x, "readings(" + wrong + ", 0)", () -> x.readings(wrong, 0));
-            illegal(x, "readings(" + wrong + ", 1)", () -> x.readings(wrong, 1));
-            noSuch(x, "readings(" + wrong + ", 2)", () -> x.readings(wrong, 2));
-            noSuch(x, "readings(" + wrong + ", -1)", () -> x.readings(wrong, -1));
+            illegal(of(FOUR), "readings(" + wrong + ", 0)", it -> it.readings(wrong, 0));
+            illegal(of(FOUR), "readings(" + wrong + ", 1)", it -> it.readings(wrong, 1));
+            noSuch(of(FOUR), "readings(" + wrong + ", 2)", it -> it.readings(wrong, 2));
+            noSuch(of(FOUR), "readings(" + wrong + ", -1)", it -> it.readings(wrong, -1));
         }
         for (int wrong : new int[] {LEAST, -1, 2, MOST}) {
-            noSuch(x, "readings(1, " + wrong + ")", () -> x.readings(1, wrong));
+            noSuch(of(FOUR), "readings(1, " + wrong + ")", it -> it.readings(1, wrong));
         }
         due("readings(999999999, 0)", 0, () -> x.readings(999999999, 0));
         due("readings(0, 1)", NONE, () -> x.readings(0, 1));
@@ -562,23 +617,23 @@ public final class CallsBoundsTest extends Checks {
         says("Promise 28: NONE (STATUS 2): there are 8, not 0 to 20, not 0 to 99. NoSuchElementException (ahead)");
         HorizonSeam x = of(FOUR);
         for (int wrong : new int[] {LEAST, -1, 21, MOST}) {
-            refused(x, 2, "see(0, " + wrong + ", 0)", () -> x.see(0, wrong, 0));
-            noSuch(x, "see(4, " + wrong + ", 0)", () -> x.see(4, wrong, 0));
+            refused(of(FOUR), 2, "see(0, " + wrong + ", 0)", it -> it.see(0, wrong, 0));
+            noSuch(of(FOUR), "see(4, " + wrong + ", 0)", it -> it.see(4, wrong, 0));
         }
         for (int wrong : new int[] {LEAST, -1, 100, MOST}) {
-            refused(x, 2, "see(0, 0, " + wrong + ")", () -> x.see(0, 0, wrong));
-            noSuch(x, "see(-1, 0, " + wrong + ")", () -> x.see(-1, 0, wrong));
+            refused(of(FOUR), 2, "see(0, 0, " + wrong + ")", it -> it.see(0, 0, wrong));
+            noSuch(of(FOUR), "see(-1, 0, " + wrong + ")", it -> it.see(-1, 0, wrong));
         }
         for (int wrong : new int[] {LEAST, -1, 4, MOST}) {
-            noSuch(x, "see(" + wrong + ", 0, 0)", () -> x.see(wrong, 0, 0));
+            noSuch(of(FOUR), "see(" + wrong + ", 0, 0)", it -> it.see(wrong, 0, 0));
         }
         for (int k = 1; k <= 8; k++) {
             int many = k;
             due("see()", many, () -> x.see(3, 0, 20));
         }
-        refused(x, 2, "the 9th", () -> x.see(3, 0, 20));
-        refused(x, 2, "the 9th, another one", () -> x.see(0, 20, 99));
-        noSuch(x, "the 9th, of no stretch", () -> x.see(4, 0, 20));
+        refused(x, 2, "the 9th", it -> it.see(3, 0, 20));
+        refused(x, 2, "the 9th, another one", it -> it.see(0, 20, 99));
+        noSuch(x, "the 9th, of no stretch", it -> it.see(4, 0, 20));
 
         says("Promise 29: All that is SEEN is forgotten");
         String status = status(x);
@@ -593,11 +648,11 @@ public final class CallsBoundsTest extends Checks {
 
         says("Promise 30: NoSuchElementException: another what");
         for (int wrong : new int[] {LEAST, -1, 3, MOST}) {
-            noSuch(x, "torn(" + wrong + ")", () -> x.torn(wrong));
+            noSuch(of(FOUR), "torn(" + wrong + ")", it -> it.torn(wrong));
         }
         says("Promise 31: NoSuchElementException: another what");
         for (int wrong : new int[] {LEAST, -1, 2, MOST}) {
-            noSuch(x, "look(" + wrong + ")", () -> x.look(wrong));
+            noSuch(of(FOUR), "look(" + wrong + ")", it -> it.look(wrong));
         }
     }
 
@@ -605,39 +660,39 @@ public final class CallsBoundsTest extends Checks {
         HorizonSeam x = of(FOUR);
         says("Promise 32: IllegalArgumentException: days, tenths");
         for (int wrong : new int[] {LEAST, -1, 0, 6, MOST}) {
-            illegal(x, "gales(" + wrong + ", 5)", () -> x.gales(wrong, 5));
-            illegal(x, "gales(" + wrong + ", 11)", () -> x.gales(wrong, 11));
+            illegal(of(FOUR), "gales(" + wrong + ", 5)", it -> it.gales(wrong, 5));
+            illegal(of(FOUR), "gales(" + wrong + ", 11)", it -> it.gales(wrong, 11));
         }
         for (int wrong : new int[] {LEAST, -1, 11, MOST}) {
-            illegal(x, "gales(1, " + wrong + ")", () -> x.gales(1, wrong));
-            illegal(x, "gales(5, " + wrong + ")", () -> x.gales(5, wrong));
+            illegal(of(FOUR), "gales(1, " + wrong + ")", it -> it.gales(1, wrong));
+            illegal(of(FOUR), "gales(5, " + wrong + ")", it -> it.gales(5, wrong));
         }
 
         says("Promise 33: NoSuchElementException: also another what. IllegalArgumentException (behind that): both are one");
         for (int what = 0; what <= 1; what++) {
             int which = what;
-            illegal(x, "game(0, 0, " + what + ")", () -> x.game(0, 0, which));
-            illegal(x, "game(1, 1, " + what + ")", () -> x.game(1, 1, which));
+            illegal(of(FOUR), "game(0, 0, " + what + ")", it -> it.game(0, 0, which));
+            illegal(of(FOUR), "game(1, 1, " + what + ")", it -> it.game(1, 1, which));
         }
         for (int wrong : new int[] {LEAST, -1, 2, MOST}) {
-            noSuch(x, "game(0, 1, " + wrong + ")", () -> x.game(0, 1, wrong));
-            noSuch(x, "game(0, 0, " + wrong + ")", () -> x.game(0, 0, wrong));
-            noSuch(x, "game(" + wrong + ", 0, 0)", () -> x.game(wrong, 0, 0));
-            noSuch(x, "game(0, " + wrong + ", 0)", () -> x.game(0, wrong, 0));
-            noSuch(x, "game(" + wrong + ", " + wrong + ", 0)", () -> x.game(wrong, wrong, 0));
+            noSuch(of(FOUR), "game(0, 1, " + wrong + ")", it -> it.game(0, 1, wrong));
+            noSuch(of(FOUR), "game(0, 0, " + wrong + ")", it -> it.game(0, 0, wrong));
+            noSuch(of(FOUR), "game(" + wrong + ", 0, 0)", it -> it.game(wrong, 0, 0));
+            noSuch(of(FOUR), "game(0, " + wrong + ", 0)", it -> it.game(0, wrong, 0));
+            noSuch(of(FOUR), "game(" + wrong + ", " + wrong + ", 0)", it -> it.game(wrong, wrong, 0));
         }
 
         says("Promise 34: NoSuchElementException: another what. IllegalArgumentException (behind that): n");
         for (int wrong : new int[] {LEAST, -1, 61, MOST}) {
             for (int what = 0; what <= 2; what++) {
                 int which = what;
-                illegal(x, "years(1, " + wrong + ", " + what + ")", () -> x.years(1, wrong, which));
+                illegal(of(FOUR), "years(1, " + wrong + ", " + what + ")", it -> it.years(1, wrong, which));
             }
-            noSuch(x, "years(1, " + wrong + ", 3)", () -> x.years(1, wrong, 3));
-            noSuch(x, "years(1, " + wrong + ", -1)", () -> x.years(1, wrong, -1));
+            noSuch(of(FOUR), "years(1, " + wrong + ", 3)", it -> it.years(1, wrong, 3));
+            noSuch(of(FOUR), "years(1, " + wrong + ", -1)", it -> it.years(1, wrong, -1));
         }
         for (int wrong : new int[] {LEAST, -1, 3, MOST}) {
-            noSuch(x, "years(1, 0, " + wrong + ")", () -> x.years(1, 0, wrong));
+            noSuch(of(FOUR), "years(1, 0, " + wrong + ")", it -> it.years(1, 0, wrong));
         }
         for (int seed : new int[] {LEAST, -1, 0, MOST}) {
             due("years(" + seed + ", 0, 1)", 39, () -> x.years(seed, 0, 1));
@@ -649,22 +704,22 @@ public final class CallsBoundsTest extends Checks {
         HorizonSeam x = of(FOUR);
         says("Promises 36, 37: no such STRETCH (as everywhere)");
         for (int wrong : new int[] {LEAST, -1, 4, 12, MOST}) {
-            noSuch(x, "nearest(" + wrong + ")", () -> x.nearest(wrong));
-            noSuch(x, "far(" + wrong + ", 0)", () -> x.far(wrong, 0));
-            noSuch(x, "far(0, " + wrong + ")", () -> x.far(0, wrong));
-            noSuch(x, "far(" + wrong + ", " + wrong + ")", () -> x.far(wrong, wrong));
+            noSuch(of(FOUR), "nearest(" + wrong + ")", it -> it.nearest(wrong));
+            noSuch(of(FOUR), "far(" + wrong + ", 0)", it -> it.far(wrong, 0));
+            noSuch(of(FOUR), "far(0, " + wrong + ")", it -> it.far(0, wrong));
+            noSuch(of(FOUR), "far(" + wrong + ", " + wrong + ")", it -> it.far(wrong, wrong));
         }
 
         says("Promise 39: IllegalArgumentException: not 1 to 50");
         HorizonSeam open = of(ALL_OPEN);
         for (int wrong : new int[] {LEAST, -1, 0, 51, MOST}) {
-            illegal(x, "worst(" + wrong + ")", () -> x.worst(wrong));
-            illegal(open, "worst(" + wrong + "), all open", () -> open.worst(wrong));
+            illegal(of(FOUR), "worst(" + wrong + ")", it -> it.worst(wrong));
+            illegal(open, "worst(" + wrong + "), all open", it -> it.worst(wrong));
         }
 
         says("Promise 42: IllegalArgumentException: not 0 to 99");
         for (int wrong : new int[] {LEAST, -1, 100, MOST}) {
-            illegal(x, "load(" + wrong + ")", () -> x.load(wrong));
+            illegal(of(FOUR), "load(" + wrong + ")", it -> it.load(wrong));
         }
         says("what is only asked changes nothing");
         String was = all(x) + status(x);

@@ -336,46 +336,74 @@ public final class DayBoundsTest extends Checks {
         return all.toString();
     }
 
-    private static void undone(String what, HorizonSeam x, Call act) {
+    private interface Act {
+        int done(HorizonSeam x);
+    }
+
+    /** Done, it changes something; undone, all is as it was; so it is done twice. */
+    private static void undone(String text, String what, Act act) {
+        HorizonSeam x = behind(1, text);
         String was = all(x);
-        int kept = x.count(9);
-        int answer = answerOf(act);
-        if (answer < 0) {
-            complain(what + " answered " + name(answer));
+        for (int time = 0; time < 2; time++) {
+            int answer = answerOf(() -> act.done(x));
+            if (answer < 0 || all(x).equals(was)) {
+                complain(what + " answered " + name(answer) + ", then: " + all(x));
+            }
+            due(what + ": acts", 2, () -> x.count(9));
+            due(what + ": undo()", 1, () -> x.undo());
+            if (!all(x).equals(was)) {
+                complain(what + ", undone: " + all(x) + ", due is " + was);
+            }
         }
-        due(what + ": acts", kept + 1, () -> x.count(9));
-        if (all(x).equals(was)) {
-            complain(what + " changed nothing");
-        }
-        due(what + ": undo()", kept, () -> x.undo());
-        if (!all(x).equals(was)) {
-            complain(what + ", undone: " + all(x) + ", due is " + was);
-        }
-        answerOf(act);
     }
 
     private static void eachActIsUndone() {
+        says("They are UNDONE");
+        String four = "stretch 18 9 0;stretch 0 10 0;stretch 45 4 0;stretch 9 20 1;woman 2 0 3;woman 4 2 1;week 2;";
+        undone(four, "days(1)", x -> x.days(1));
+        undone(four, "days(20)", x -> x.days(20));
+        undone(four, "thread(1, 50)", x -> x.thread(1, 50));
+        undone(four, "mend(1)", x -> x.mend(1));
+        undone(four, "go(1, 0)", x -> x.go(1, 0));
+        undone(four, "stitch(3, 2)", x -> x.stitch(3, 2));
+        undone(four, "tear(3, 5)", x -> x.tear(3, 5));
+        undone(four, "tear(3, 50)", x -> x.tear(3, 50));
+
         says("They are UNDONE, the last one first");
-        HorizonSeam x = of("stretch 18 9 0;stretch 0 10 0;stretch 45 4 0;stretch 9 20 1;woman 2 0 3;woman 4 2 1;week 2;");
+        HorizonSeam x = of(four);
         String was = all(x);
-        undone("days(1)", x, () -> x.days(1));
-        undone("days(20)", x, () -> x.days(20));
-        undone("thread(1, 50)", x, () -> x.thread(1, 50));
-        undone("mend(1)", x, () -> x.mend(1));
-        undone("go(1, 0)", x, () -> x.go(1, x.woman(1, 1) == 0 ? 1 : 0));
-        undone("mend(1)", x, () -> x.mend(1));
-        undone("stitch(3, 2)", x, () -> x.stitch(3, x.stretch(3, 2) == 2 ? 1 : 2));
-        undone("tear", x, () -> x.tear(x.closed(1), 50));
+        x.days(1);
+        x.thread(1, 50);
+        x.mend(1);
+        x.go(1, 0);
+        x.mend(1);
+        x.stitch(3, 2);
+        x.tear(3, 50);
+        x.days(20);
         due("acts", 8, () -> x.count(9));
-        for (int left = 7; left >= 0; left--) {
-            int still = left;
-            due("undo()", still, () -> x.undo());
-        }
+        due("undo() of days", 7, () -> x.undo());
+        due("torn yet", 0, () -> x.stretch(3, 1));
+        due("undo() of a tear", 6, () -> x.undo());
+        due("isn't torn any more", 19, () -> x.stretch(3, 1));
+        due("of another stitch yet", 2, () -> x.stretch(3, 2));
+        due("undo() of a stitch", 5, () -> x.undo());
+        due("of its first stitch", 1, () -> x.stretch(3, 2));
+        due("thread", 49, () -> x.woman(1, 2));
+        due("undo() of mending", 4, () -> x.undo());
+        due("thread", 50, () -> x.woman(1, 2));
+        due("where she is", 0, () -> x.woman(1, 1));
+        due("undo() of going", 3, () -> x.undo());
+        due("where she is", 2, () -> x.woman(1, 1));
+        due("undo() of mending", 2, () -> x.undo());
+        due("thread", 51, () -> x.woman(1, 2));
+        due("undo() of thread", 1, () -> x.undo());
+        due("thread", 1, () -> x.woman(1, 2));
+        due("undo() of days", 0, () -> x.undo());
         if (!all(x).equals(was)) {
             complain("all undone: " + all(x) + ", due is " + was);
         }
         HorizonSeam y = of("stretch 40 9 0;stretch 10 9 0;stretch 20 9 0;" + STILL);
-        undone("a tear that opens", y, () -> y.tear(0, 9));
+        y.tear(0, 9);
         lies(y, 0, 0, 0);
         lies(y, 1, 30, 9);
         lies(y, 2, 40, 9);

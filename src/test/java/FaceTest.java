@@ -3,6 +3,7 @@ import java.lang.reflect.Field;
 import java.lang.reflect.Method;
 import java.lang.reflect.Modifier;
 import java.util.Arrays;
+import java.util.NoSuchElementException;
 import java.util.Set;
 import java.util.TreeSet;
 import java.util.stream.Collectors;
@@ -14,6 +15,11 @@ public final class FaceTest {
             + "see3 torn1 look1 gales2 game3 years3 steady0 nearest1 far2 gaps0 worst1 meet2 bare1 load1";
     private static final String VOIDS = "forget0 image0";
     private static final String BOOLEANS = "restore0";
+
+    /** The document's throws clauses: of no such element alone, of an illegal argument alone, of both; the rest throws nothing. */
+    private static final String NO_SUCH = "count stretch woman mend go stitch thread tear opens closed see torn look nearest far meet";
+    private static final String ILLEGAL = "ring gales worst bare load";
+    private static final String BOTH = "then later where toHold toSend bestStitch sent tight readings game years";
 
     private static int wrong = 0;
 
@@ -41,6 +47,17 @@ public final class FaceTest {
         return new TreeSet<>(Arrays.asList(row.split(" ")));
     }
 
+    private static Set<String> thrownBy(Class<?>... exceptions) {
+        Set<String> names = new TreeSet<>();
+        for (Method m : HorizonSeam.class.getDeclaredMethods()) {
+            Set<Class<?>> declared = Set.of(m.getExceptionTypes());
+            if (Modifier.isPublic(m.getModifiers()) && declared.equals(Set.of(exceptions))) {
+                names.add(m.getName());
+            }
+        }
+        return names;
+    }
+
     private static void hidden(String what, int modifiers) {
         due(what + " is private", Modifier.isPrivate(modifiers), true);
     }
@@ -50,6 +67,9 @@ public final class FaceTest {
         due("int methods", publicMethods(int.class), words(INTS));
         due("void methods", publicMethods(void.class), words(VOIDS));
         due("boolean methods", publicMethods(boolean.class), words(BOOLEANS));
+        due("throw NoSuchElementException", thrownBy(NoSuchElementException.class), words(NO_SUCH));
+        due("throw IllegalArgumentException", thrownBy(IllegalArgumentException.class), words(ILLEGAL));
+        due("throw both", thrownBy(NoSuchElementException.class, IllegalArgumentException.class), words(BOTH));
         due("NONE", HorizonSeam.NONE, -1);
         due("constructors", HorizonSeam.class.getDeclaredConstructors().length, 1);
         for (Constructor<?> c : HorizonSeam.class.getDeclaredConstructors()) {
